@@ -254,58 +254,58 @@ public final class PlanningHouse {
     // ---- what rules leave
 
     public int reach(int p) {
-        Problem q = known(p);
+        Problem q = scored(p);
         return q == null ? NONE : hard.workOut(q);
     }
 
     public boolean isLeft(int p, int v, int k) {
-        Problem q = known(p);
+        Problem q = scored(p);
         if (q == null || !q.space.isVar(v) || k < 0 || k >= q.space.sizes[v]) return false;
         hard.workOut(q);
         return (hard.left[v] >> k & 1) != 0;
     }
 
     public int hopeless(int p) {
-        Problem q = known(p);
+        Problem q = scored(p);
         return q == null ? NONE : hard.alwaysBroken(q);
     }
 
     // ---- the best
 
     public int solve(int p) {
-        Problem q = known(p);
+        Problem q = scored(p);
         if (q == null) return NONE;
         return q.table.gatherFor(q, true) > 0 && q.moveTo(q.table.list[0]) ? 1 : 0;
     }
 
     public long best(int p, int level) {
-        Problem q = known(p);
+        Problem q = scored(p);
         if (q == null || !isLevel(level) || q.table.gatherFor(q, true) == 0) return NO;
         return q.table.scoreOf(q.table.list[0], level);
     }
 
     public int bests(int p) {
-        Problem q = known(p);
+        Problem q = scored(p);
         return q == null ? NONE : q.table.gatherFor(q, true);
     }
 
     public boolean bestAt(int p, int k) {
-        Problem q = known(p);
+        Problem q = scored(p);
         return q != null && k >= 0 && k < q.table.gatherFor(q, true) && q.moveTo(q.table.list[k]);
     }
 
     public int feasibles(int p) {
-        Problem q = known(p);
+        Problem q = scored(p);
         return q == null ? NONE : q.table.gatherFor(q, false);
     }
 
     public boolean feasibleAt(int p, int k) {
-        Problem q = known(p);
+        Problem q = scored(p);
         return q != null && k >= 0 && k < q.table.gatherFor(q, false) && q.moveTo(q.table.list[k]);
     }
 
     public int has(int p, int v, int value, boolean best) {
-        Problem q = known(p);
+        Problem q = scored(p);
         if (q == null || !q.space.isVar(v)) return NONE;
         int all = q.table.gatherFor(q, best);
         int with = q.table.keepValue(q.space, v, q.space.placeOfValue(v, value));
@@ -314,14 +314,14 @@ public final class PlanningHouse {
     }
 
     public int choices(int p, int v) {
-        Problem q = known(p);
+        Problem q = scored(p);
         if (q == null || !q.space.isVar(v)) return NONE;
         q.table.gatherFor(q, true);
         return q.table.differentValues(q.space, v);
     }
 
     public int mend(int p, int set) {
-        Problem q = known(p);
+        Problem q = scored(p);
         if (q == null) return NONE;
         q.table.gather(q, ~set);
         return q.table.keepBest() > 0 && q.moveTo(q.table.list[0]) ? 1 : 0;
@@ -330,23 +330,23 @@ public final class PlanningHouse {
     // ---- several aims, near plans
 
     public int front(int p) {
-        Problem q = known(p);
+        Problem q = scored(p);
         return q == null ? NONE : q.table.walkFront(q, NONE);
     }
 
     public long frontAt(int p, int k, int what) {
-        Problem q = known(p);
+        Problem q = scored(p);
         if (q == null || k < 0 || !isLevel(what) || k >= q.table.walkFront(q, k)) return NO;
         return what == 0 ? q.table.pairPlans : q.table.scoreOf(q.table.pairFirst, what);
     }
 
     public boolean frontPlan(int p, int k) {
-        Problem q = known(p);
+        Problem q = scored(p);
         return q != null && k >= 0 && k < q.table.walkFront(q, k) && q.moveTo(q.table.pairFirst);
     }
 
     public int near(int p, boolean best) {
-        Problem q = known(p);
+        Problem q = scored(p);
         if (q == null || q.table.gatherFor(q, best) == 0) return NONE;
         int nearest = q.table.list[0];
         int least = q.costTo(nearest);
@@ -364,35 +364,35 @@ public final class PlanningHouse {
     // ---- none, and why
 
     public int clash(int p) {
-        Problem q = known(p);
+        Problem q = scored(p);
         return q == null ? NONE : hard.narrowed(q);
     }
 
     public int fewest(int p) {
-        Problem q = known(p);
+        Problem q = scored(p);
         return q == null ? NONE : hard.smallest(q);
     }
 
     public int relax(int p) {
-        Problem q = known(p);
+        Problem q = scored(p);
         return q == null ? NONE : hard.cheapest(q);
     }
 
     public long without(int p, int r, int level) {
-        Problem q = known(p);
+        Problem q = scored(p);
         if (q == null || !q.isRule(r) || !isLevel(level)) return NO;
         return q.bestLacking(r) ? q.sums[level] : NO;
     }
 
     public long whyNot(int p, int v, int value, int level) {
-        Problem q = known(p);
+        Problem q = scored(p);
         if (q == null || !isLevel(level)) return NO;
         int plan = q.firstBestWith(v, value);
         return plan < 0 ? NO : q.table.scoreOf(plan, level);
     }
 
     public int because(int p, int v, int value) {
-        Problem q = known(p);
+        Problem q = scored(p);
         if (q == null) return NONE;
         int plan = q.firstBestWith(v, value);
         if (plan < 0 || q.table.gatherFor(q, true) == 0) return NONE;
@@ -472,7 +472,7 @@ public final class PlanningHouse {
     // ---- proofs
 
     public int check(int p) {
-        Problem q = known(p);
+        Problem q = scored(p);
         if (q == null) return FULL;
         boolean right = proof.isRight(q, tape);
         lastFault = tokens.code;
@@ -480,7 +480,7 @@ public final class PlanningHouse {
     }
 
     public int prove(int p) {
-        Problem q = known(p);
+        Problem q = scored(p);
         if (q == null || q.table.beatsHand(q) || !proof.fits(q)) return NONE;
         proof.write(q, tape);
         return tape.length;
@@ -565,6 +565,13 @@ public final class PlanningHouse {
         if (p < 0 || p >= PROBLEMS) return null;
         Problem q = problems[p];
         return q != null && q.live ? q : null;
+    }
+
+    /** A problem whose table goes by its facts as they are. */
+    private Problem scored(int p) {
+        Problem q = known(p);
+        if (q != null) q.table.renew(q);
+        return q;
     }
 
     private int freeNumber() {
@@ -733,13 +740,18 @@ public final class PlanningHouse {
                 if (kinds[count - 1] == BAD) break;
             }
             write(END, 0, text.length, text.length);
-            current = 0;
-            show();
+            current = NONE;
+            step();
         }
 
+        /** The next token is come to; behind the last one stands the end, and stays. */
         void step() {
             if (current < count) current++;
-            show();
+            if (current < 0 || current >= kinds.length) return;
+            kind = kinds[current];
+            key = keys[current];
+            place = places[current];
+            end = ends[current];
         }
 
         boolean is(int mark) {
@@ -754,22 +766,16 @@ public final class PlanningHouse {
 
         /** The token that is come to can't stand there. */
         boolean refuse() {
-            return fail(kind == BAD ? 1 : 2, place);
-        }
-
-        boolean fail(int why, int where) {
-            if (code != 0) return false;
-            code = why;
-            faultPlace = where;
+            code = kind == BAD ? 1 : 2;
+            faultPlace = place;
             return false;
         }
 
-        private void show() {
-            if (current >= kinds.length) return;
-            kind = kinds[current];
-            key = keys[current];
-            place = places[current];
-            end = ends[current];
+        /** Nothing is read behind a fault, so that the first one stays. */
+        boolean fail(int why, int where) {
+            code = why;
+            faultPlace = where;
+            return false;
         }
 
         private static boolean isLetter(int b) {
@@ -1022,7 +1028,10 @@ public final class PlanningHouse {
             }
             if (tokens.is('{')) return enter('{') && test() && leave('}');
             if (tokens.kind == Tokens.MARK && tokens.key >= Tokens.WORD_ALL && tokens.key <= Tokens.WORD_APART) {
-                return special(Judge.ALL + (int) tokens.key - Tokens.WORD_ALL);
+                int op = Judge.ALL + (int) tokens.key - Tokens.WORD_ALL;
+                tokens.step();
+                judge.emit(op, judge.noted);
+                return tokens.accept('(') && lists(op) && tokens.accept(')');
             }
             if (!sum()) return false;
             int op = comparison();
@@ -1126,14 +1135,7 @@ public final class PlanningHouse {
             return tokens.accept(mark);
         }
 
-        private boolean special(int op) {
-            tokens.step();
-            if (!tokens.accept('(')) return false;
-            judge.emit(op, judge.noted);
-            return specialBody(op) && tokens.accept(')');
-        }
-
-        private boolean specialBody(int op) {
+        private boolean lists(int op) {
             if (op == Judge.APART) return groups("vvnn", 4);
             if (op == Judge.BUSY) {
                 if (!numeral(false, 0, TOP_NUMBER)) return false;
@@ -1394,6 +1396,10 @@ public final class PlanningHouse {
             if (i >= 0 && i < noted) notes[i] = x;
         }
 
+        boolean isPart(int part) {
+            return part >= 0 && part < rules || part >= RULES && part < RULES + aims;
+        }
+
         /** The values of a plan are those that parts see from now on. */
         void look(Space space, int plan) {
             for (int v = 0; v < space.vars && v < seen.length; v++) seen[v] = space.valueOf(plan, v);
@@ -1500,7 +1506,8 @@ public final class PlanningHouse {
 
         /** The value of the var that is noted at a place. */
         private int valueAt(int i) {
-            int v = noteAt(i);
+            if (i < 0 || i >= noted || i >= notes.length) return 0;
+            int v = notes[i];
             return v >= 0 && v < seen.length ? seen[v] : 0;
         }
 
@@ -1566,23 +1573,22 @@ public final class PlanningHouse {
         private int astray(int at) {
             int n = noteAt(at);
             int arrows = at + 1 + n;
-            int states = arrows + 1 + 3 * noteAt(arrows);
+            int many = noteAt(arrows);
+            int states = arrows + 1 + 3 * many;
             int state = 0;
-            for (int i = 1; i <= n && state >= 0; i++) state = ledTo(arrows, state, valueAt(at + i));
+            for (int i = 1; i <= n; i++) {
+                int next = NONE;
+                for (int j = 0; j < many && next < 0; j++) {
+                    int arrow = arrows + 1 + 3 * j;
+                    if (noteAt(arrow) == state && noteAt(arrow + 1) == valueAt(at + i)) next = noteAt(arrow + 2);
+                }
+                if (next < 0) return 1;
+                state = next;
+            }
             for (int i = 1; i <= noteAt(states); i++) {
                 if (noteAt(states + i) == state) return 0;
             }
             return 1;
-        }
-
-        /** The state to which the first arrow that fits leads; NONE without one. */
-        private int ledTo(int arrows, int state, int value) {
-            int n = noteAt(arrows);
-            for (int j = 0; j < n; j++) {
-                int arrow = arrows + 1 + 3 * j;
-                if (noteAt(arrow) == state && noteAt(arrow + 1) == value) return noteAt(arrow + 2);
-            }
-            return NONE;
         }
 
         /** The greatest sum is that at some task's first moment, for between those heights only go. */
@@ -1609,17 +1615,13 @@ public final class PlanningHouse {
                 int a = at + 1 + 4 * i;
                 for (int j = i + 1; j < boxes; j++) {
                     int b = at + 1 + 4 * j;
-                    if (meets(a, b, 0) && meets(a, b, 1)) pairs++;
+                    boolean across = valueAt(a) < valueAt(b) + noteAt(b + 2) && valueAt(b) < valueAt(a) + noteAt(a + 2);
+                    boolean upwards = valueAt(a + 1) < valueAt(b + 1) + noteAt(b + 3)
+                        && valueAt(b + 1) < valueAt(a + 1) + noteAt(a + 3);
+                    if (across && upwards) pairs++;
                 }
             }
             return pairs;
-        }
-
-        /** Whether two boxes meet in one direction, 0 across, 1 upwards. */
-        private boolean meets(int a, int b, int way) {
-            int from = valueAt(a + way);
-            int other = valueAt(b + way);
-            return from < other + noteAt(b + 2 + way) && other < from + noteAt(a + 2 + way);
         }
     }
 
@@ -1733,7 +1735,6 @@ public final class PlanningHouse {
 
         /** Whether there are BEST plans without a rule; their scores are the sums then. */
         boolean bestLacking(int r) {
-            table.renew(this);
             boolean any = false;
             int wanted = judge.hardSet & ~(1 << r);
             int plan = space.lowest(hand, pins);
@@ -1871,7 +1872,6 @@ public final class PlanningHouse {
 
         /** All feasible plans, in order, that agree with the plan at hand in the vars of a set. */
         int gather(Problem p, int fixed) {
-            renew(p);
             listed = 0;
             int plan = p.space.lowest(p.hand, fixed);
             for (int n = 0; n < p.space.plans && plan >= 0; n++) {
@@ -1997,7 +1997,6 @@ public final class PlanningHouse {
 
         /** What is LEFT; how many values that are. */
         int workOut(Problem p) {
-            p.table.renew(p);
             listRules(p);
             for (int v = 0; v < p.space.vars; v++) {
                 boolean pinned = (p.pins >> v & 1) != 0;
@@ -2054,7 +2053,6 @@ public final class PlanningHouse {
 
         /** The first hard rule that all allowed plans break; NONE. */
         int alwaysBroken(Problem p) {
-            p.table.renew(p);
             int always = p.judge.hardSet;
             int plan = p.space.lowest(p.hand, p.pins);
             for (int n = 0; n < p.space.plans && plan >= 0; n++) {
@@ -2104,7 +2102,6 @@ public final class PlanningHouse {
 
         /** Which sets suffice is worked out; the set of all hard rules, numbered among themselves. */
         private int lookAtSets(Problem p) {
-            p.table.renew(p);
             listRules(p);
             if (suffices.length == 0) suffices = new boolean[1 << HARD_RULES];
             int all = (1 << hards) - 1;
@@ -2274,7 +2271,6 @@ public final class PlanningHouse {
         }
 
         boolean isRight(Problem p, Bytes text) {
-            p.table.renew(p);
             tokens.scan(text);
             if (!tree(p, p.pins, p.hand, 0)) return false;
             return tokens.kind == Tokens.END || tokens.refuse();
@@ -2332,22 +2328,20 @@ public final class PlanningHouse {
             int at = p.space.lowest(plan, given);
             for (int n = 0; n < p.space.plans && at >= 0; n++) {
                 p.judge.look(p.space, at);
-                for (int r = 0; r < p.judge.rules; r++) lower(p, r);
-                for (int a = 0; a < p.judge.aims; a++) lower(p, RULES + a);
+                for (int i = 0; i < least.length; i++) {
+                    if (p.judge.isPart(i)) least[i] = Math.min(least[i], p.judge.run(i, p.facts));
+                }
                 at = p.space.following(at, given);
             }
             Arrays.fill(bound, 0L);
-            for (int r = 0; r < p.judge.rules; r++) bound[p.judge.levels[r]] += (long) p.judge.weights[r] * least[r];
-            for (int a = 0; a < p.judge.aims; a++) bound[p.judge.levels[RULES + a]] += least[RULES + a];
+            for (int i = 0; i < least.length; i++) {
+                if (p.judge.isPart(i)) bound[p.judge.levels[i]] += (long) least[i] * (i < RULES ? p.judge.weights[i] : 1);
+            }
             for (int level = 0; level < LEVELS; level++) {
                 long hand = p.table.scoreOf(p.hand, level);
                 if (hand != bound[level]) return hand < bound[level];
             }
             return true;
-        }
-
-        private void lower(Problem p, int part) {
-            least[part] = Math.min(least[part], p.judge.run(part, p.facts));
         }
 
         /** Whether the proof of all plans one by one has room on the tape. */
