@@ -1433,7 +1433,7 @@ public final class PlanningHouse {
         int weighAll(Space space, int plan, int[] facts, long[] into, int at) {
             if (at < 0 || at > into.length - LEVELS) return 0;
             look(space, plan);
-            Arrays.fill(into, at, at + LEVELS, 0L);
+            for (int level = 0; level < LEVELS; level++) into[at + level] = 0;
             int set = 0;
             for (int r = 0; r < rules; r++) {
                 int by = run(r, facts);

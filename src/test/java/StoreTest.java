@@ -1,0 +1,287 @@
+/** Promises 59 to 66: the store, exports, and power that fails. */
+public final class StoreTest {
+    private static final String TEXT = "fact f=-2;fact g=7;var a in -1..1;var b in 0..3;";
+
+    public static void main(String[] args) {
+        row();
+        loading();
+        noFutures();
+        full();
+        crashes();
+        exports();
+        noExports();
+        fullExports();
+        Due.end();
+    }
+
+    private static String number(long x, int n) {
+        StringBuilder told = new StringBuilder();
+        for (int i = n - 1; i >= 0; i--) told.append((char) (x >>> 8 * i & 255));
+        return told.toString();
+    }
+
+    private static String sum(String bytes) {
+        long s = 0;
+        for (int i = 0; i < bytes.length(); i++) s = Long.rotateLeft(s ^ bytes.charAt(i), 53) * 0xC2B2AE3D27D4EB4FL;
+        return number(s, 8);
+    }
+
+    private static String summed(String bytes) {
+        return bytes + sum(bytes);
+    }
+
+    private static String rowOf(String text, String state) {
+        return summed((char) 211 + number(text.length(), 2) + text + state);
+    }
+
+    private static String exportOf(int rows, String bytes) {
+        return summed(number(rows, 2) + bytes);
+    }
+
+    private static String stored(PlanningHouse x) {
+        StringBuilder told = new StringBuilder();
+        for (int i = 0; x.byteAt(i) != PlanningHouse.NONE; i++) told.append((char) x.byteAt(i));
+        return told.toString();
+    }
+
+    private static void row() {
+        PlanningHouse x = Due.of(TEXT);
+        Due.is("save", x.save(0), 0);
+        String first = rowOf(TEXT, number(-2, 4) + number(7, 4) + number(255, 1) + number(1, 2) + number(0, 1) + number(1, 2) + number(0, 2));
+        Due.same("the row", stored(x), first);
+        Due.is("rows", x.rows(), 1);
+        Due.is("size", x.size(), first.length());
+        x.change(0, 0, 9999);
+        x.change(0, 1, -9999);
+        x.put(0, 1, 3);
+        x.weigh(0, 0, 1000);
+        x.weigh(0, 1, 0);
+        x.pin(0, 1, true);
+        Due.is("save", x.save(0), 1);
+        String second = rowOf(TEXT, number(9999, 4) + number(-9999, 4) + number(255, 1) + number(1000, 2) + number(3, 1) + number(0, 2) + number(2, 2));
+        Due.same("both rows", stored(x), first + second);
+        Due.is("byteAt(-1)", x.byteAt(-1), PlanningHouse.NONE);
+        Due.is("byteAt behind", x.byteAt(x.size()), PlanningHouse.NONE);
+        Due.is("byteAt(0)", x.byteAt(0), 211);
+        Due.is("save of none", x.save(1), PlanningHouse.NONE);
+        Due.is("save of none", x.save(-1), PlanningHouse.NONE);
+        Due.is("rows", x.rows(), 2);
+    }
+
+    private static void loading() {
+        PlanningHouse x = Due.of(TEXT);
+        x.change(0, 0, -77);
+        x.put(0, 0, 1);
+        x.put(0, 1, 2);
+        x.weigh(0, 1, 300);
+        x.pin(0, 0, true);
+        x.save(0);
+        Due.is("fault before", Due.read(x, "?"), -1);
+        Due.is("load", x.load(0), 1);
+        Due.is("fault stays", x.fault(), 1);
+        Due.planIs(x, 1, "1 2");
+        Due.is("fact", x.fact(1, 0), -77);
+        Due.is("fact", x.fact(1, 1), 7);
+        Due.is("cost", x.weigh(1, 1, 5), 300);
+        Due.is("cost", x.weigh(1, 0, 5), 1);
+        Due.is("pin", x.pin(1, 0, false), true);
+        Due.is("pin", x.pin(1, 1, false), false);
+        Due.is("the old one", x.weigh(0, 1, 300), 300);
+        Due.is("bytes of its text", x.count(1, 8), TEXT.length());
+        Due.is("load of none", x.load(1), PlanningHouse.NONE);
+        Due.is("load of none", x.load(-1), PlanningHouse.NONE);
+        Due.is("load", x.load(0), 2);
+        Due.is("load", x.load(0), 3);
+        Due.is("load a fifth", x.load(0), PlanningHouse.FULL);
+        Due.is("load none with four", x.load(1), PlanningHouse.NONE);
+        x.drop(2);
+        Due.is("the least free one", x.load(0), 2);
+    }
+
+    private static void noFutures() {
+        PlanningHouse x = Due.of(TEXT);
+        x.future(0, 5);
+        x.save(0);
+        Due.is("load", x.load(0), 1);
+        Due.is("no futures", x.count(1, 7), 0);
+        Due.is("the old one's", x.count(0, 7), 1);
+        x.drop(0);
+        Due.is("load in its place", x.load(0), 0);
+        Due.is("no futures", x.count(0, 7), 0);
+    }
+
+    /** Rows of 28 bytes: 100 are the most; then large ones, made by a proof that becomes a remark. */
+    private static void full() {
+        PlanningHouse x = Due.of("var a in 0..0;");
+        for (int k = 0; k < 100; k++) Due.is("save", x.save(0), k);
+        Due.is("save", x.save(0), PlanningHouse.FULL);
+        Due.is("rows", x.rows(), 100);
+        Due.is("size", x.size(), 100 * 30);
+        PlanningHouse y = Due.of("var a in 0..19;var b in 0..19;var c in 0..19;");
+        Due.is("prove", y.prove(0), 17262);
+        y.spoil(0, 'a' ^ '%');
+        Due.type(y, "\nvar a in 0..0;");
+        Due.is("a large problem", y.problem(), 1);
+        Due.is("its text", y.count(1, 8), 17277);
+        Due.is("save", y.save(1), 0);
+        Due.is("size", y.size(), 17277 + 16);
+        y.drop(0);
+        int left = 19990 - y.size();
+        // two rows that fill all but one byte too many
+        String text = "var a in 0..0;%" + "x".repeat(left - 16 - 15 + 1);
+        Due.is("read", Due.read(y, text), 0);
+        Due.is("one byte too many", y.save(0), PlanningHouse.FULL);
+        Due.is("size stays", y.size(), 17277 + 16);
+        y.drop(0);
+        Due.is("read", Due.read(y, text.substring(0, text.length() - 1)), 0);
+        Due.is("just right", y.save(0), 1);
+        Due.is("size", y.size(), 19990);
+        Due.is("take", y.take(), 20000);
+    }
+
+    private static void crashes() {
+        PlanningHouse x = Due.of("var a in 0..0;");
+        Due.is("without a call", x.crash(0), 0);
+        x.save(0);
+        x.save(0);
+        Due.is("below 0", x.crash(-1), PlanningHouse.NONE);
+        Due.is("wholly there", x.crash(30), 2);
+        Due.is("since the latest crash there is none", x.crash(0), 2);
+        x.save(0);
+        Due.is("one byte less", x.crash(29), 2);
+        Due.is("size", x.size(), 60);
+        Due.is("again", x.crash(0), 2);
+        Due.is("save", x.save(0), 2);
+        Due.is("nothing is there", x.crash(0), 2);
+        x.take();
+        Due.is("bring", x.bring(), 2);
+        Due.is("rows", x.rows(), 4);
+        Due.is("one row is there", x.crash(59), 3);
+        Due.is("size", x.size(), 90);
+        x.save(0);
+        x.take();
+        x.bring();
+        Due.is("all are there", x.crash(Integer.MAX_VALUE), 8);
+        x.save(0);
+        x.cut(0);
+        Due.type(x, exportOf(0, ""));
+        Due.is("bring of no rows", x.bring(), 0);
+        Due.is("the save was the latest that made a row", x.crash(29), 8);
+        Due.is("a save that failed", x.save(1), PlanningHouse.NONE);
+        Due.is("nothing is gone", x.crash(0), 8);
+        Due.is("load of one that is gone", x.load(8), PlanningHouse.NONE);
+        Due.is("load of one that is there", x.load(7), 1);
+    }
+
+    private static void exports() {
+        PlanningHouse x = Due.of(TEXT);
+        Due.type(x, "something");
+        Due.is("take of none", x.take(), 10);
+        Due.same("the tape", Due.tape(x), exportOf(0, ""));
+        Due.is("bring of none", x.bring(), 0);
+        Due.is("the tape is empty", x.cut(0), 0);
+        x.save(0);
+        x.put(0, 0, 1);
+        x.save(0);
+        String rows = stored(x);
+        Due.is("take", x.take(), rows.length() + 10);
+        Due.same("the tape", Due.tape(x), exportOf(2, rows));
+        PlanningHouse y = new PlanningHouse();
+        Due.type(y, exportOf(2, rows));
+        Due.is("bring", y.bring(), 2);
+        Due.same("the rows", stored(y), rows);
+        Due.is("the tape is empty", y.cut(0), 0);
+        Due.is("rows", y.rows(), 2);
+        Due.is("load", y.load(1), 0);
+        Due.planIs(y, 0, "1 0");
+        Due.is("fault()", y.fault(), 0);
+    }
+
+    private static void none(String tape) {
+        PlanningHouse x = Due.of("var a in 0..0;");
+        x.save(0);
+        Due.type(x, tape);
+        Due.is("bring", x.bring(), PlanningHouse.NONE);
+        Due.same("the tape stays", Due.tape(x), tape);
+        Due.is("rows", x.rows(), 1);
+        Due.is("fault()", x.fault(), 0);
+        Due.is("nothing was written", x.crash(0), 0);
+    }
+
+    private static String state(int f, int a, int costA, int b, int pins) {
+        return number(f, 4) + number(7, 4) + number(a, 1) + number(costA, 2) + number(b, 1) + number(1, 2) + number(pins, 2);
+    }
+
+    private static void noExports() {
+        String fine = rowOf(TEXT, state(-9999, -1, 1000, 3, 3));
+        PlanningHouse x = new PlanningHouse();
+        Due.type(x, exportOf(1, fine));
+        Due.is("a fine one", x.bring(), 1);
+        none("");
+        none(exportOf(0, "").substring(1));
+        none(exportOf(0, "") + " ");
+        none(exportOf(1, ""));
+        none(exportOf(2, fine));
+        none(exportOf(0, fine));
+        none(exportOf(1, fine + fine));
+        none(exportOf(1, fine.substring(0, fine.length() - 1)));
+        none(exportOf(1, summed((char) 210 + fine.substring(1, fine.length() - 8))));
+        none(exportOf(1, fine.substring(0, fine.length() - 1) + (char) (fine.charAt(fine.length() - 1) ^ 1)));
+        String whole = exportOf(1, fine);
+        none(whole.substring(0, whole.length() - 1) + (char) (whole.charAt(whole.length() - 1) ^ 1));
+        none(exportOf(1, rowOf(TEXT.replace("var b", "var a"), state(0, 0, 1, 0, 0))));
+        none(exportOf(1, rowOf("", number(0, 2))));
+        none(exportOf(1, rowOf("fact f = 1;", number(1, 4) + number(0, 2))));
+        none(exportOf(1, rowOf(TEXT, state(10000, 0, 1, 0, 0))));
+        none(exportOf(1, rowOf(TEXT, state(-10000, 0, 1, 0, 0))));
+        none(exportOf(1, rowOf(TEXT, state(0, 2, 1, 0, 0))));
+        none(exportOf(1, rowOf(TEXT, state(0, -2, 1, 0, 0))));
+        none(exportOf(1, rowOf(TEXT, state(0, 0, 1001, 0, 0))));
+        none(exportOf(1, rowOf(TEXT, state(0, 0, 65535, 0, 0))));
+        none(exportOf(1, rowOf(TEXT, state(0, 0, 1, 4, 0))));
+        none(exportOf(1, rowOf(TEXT, state(0, 0, 1, 0, 4))));
+        none(exportOf(1, rowOf(TEXT, state(0, 0, 1, 0, 32768))));
+        none(exportOf(1, rowOf(TEXT, state(0, 0, 1, 0, 0) + " ")));
+        none(summed(number(1, 2) + (char) 211));
+        none(summed(number(1, 2) + (char) 211 + number(65535, 2)));
+    }
+
+    private static void fullExports() {
+        PlanningHouse x = Due.of("var a in 0..0;");
+        for (int k = 0; k < 51; k++) x.save(0);
+        x.take();
+        String tape = Due.tape(x);
+        Due.is("too many rows", x.bring(), PlanningHouse.FULL);
+        Due.same("the tape stays", Due.tape(x), tape);
+        Due.is("rows", x.rows(), 51);
+        Due.is("the latest is the save", x.crash(0), 50);
+        x.take();
+        Due.is("just right", x.bring(), 50);
+        Due.is("rows", x.rows(), 100);
+        Due.is("size", x.size(), 3000);
+        Due.is("all that was brought is gone", x.crash(0), 50);
+        // 130 rows of their own are an export that is right, but too many
+        String row = rowOf("var a in 0..0;", number(0, 1) + number(1, 2) + number(0, 2));
+        PlanningHouse y = new PlanningHouse();
+        Due.type(y, exportOf(130, row.repeat(130)));
+        Due.is("130 rows", y.bring(), PlanningHouse.FULL);
+        Due.is("rows", y.rows(), 0);
+        y.cut(0);
+        Due.type(y, exportOf(130, row.repeat(129) + row.replace((char) 211, 'x')));
+        Due.is("not right comes first", y.bring(), PlanningHouse.NONE);
+        // a text of 10000 and more twice: too many bytes
+        PlanningHouse z = Due.of("var a in 0..19;var b in 0..19;var c in 0..19;");
+        z.prove(0);
+        z.spoil(0, 'a' ^ '%');
+        Due.type(z, "\nvar a in 0..0;");
+        z.problem();
+        z.save(1);
+        z.take();
+        Due.is("too many bytes", z.bring(), PlanningHouse.FULL);
+        Due.is("rows", z.rows(), 1);
+        z.crash(0);
+        Due.is("room again", z.bring(), 1);
+        Due.is("load", z.load(0), 2);
+        Due.is("its text", z.count(2, 8), 17277);
+    }
+}
