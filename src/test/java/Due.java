@@ -4,14 +4,26 @@ import java.nio.charset.StandardCharsets;
 final class Due {
     private static int asked = 0;
     private static int wrong = 0;
+    private static String about = "";
 
     private Due() {}
+
+    /** The sentence of the document that the next calls are about is told with what is wrong. */
+    static void about(String sentence) {
+        about = sentence;
+    }
+
+    private static void isWrong(String told) {
+        wrong++;
+        if (wrong > 50) return;
+        if (!about.isEmpty()) System.out.println("[" + about + "]");
+        System.out.println(told);
+    }
 
     static void is(String call, long got, long want) {
         asked++;
         if (got == want) return;
-        wrong++;
-        if (wrong <= 50) System.out.println(call.substring(0, Math.min(300, call.length())) + " answered " + got + ", due is " + want);
+        isWrong(call.substring(0, Math.min(300, call.length())) + " answered " + got + ", due is " + want);
     }
 
     static void is(String call, boolean got, boolean want) {
@@ -43,6 +55,27 @@ final class Due {
         return house;
     }
 
+    /** A text that is read: its fault is 0, and the tape is empty behind it. */
+    static void fine(String text) {
+        PlanningHouse x = of(text);
+        is("fault() of " + text, x.fault(), 0);
+        is("the tape behind " + text, x.cut(0), 0);
+    }
+
+    /** A text with a fault, whose place is marked by an at sign, which itself is left out. */
+    static void fault(String marked, int code) {
+        int place = marked.indexOf('@');
+        fault(marked.substring(0, place) + marked.substring(place + 1), place, code);
+    }
+
+    static void fault(String text, int place, int code) {
+        PlanningHouse x = new PlanningHouse();
+        is("problem() of " + text, read(x, text), -1 - place);
+        is("fault() of " + text, x.fault(), code);
+        is("the tape behind " + text, x.cut(0), 0);
+        is("no problem behind " + text, x.count(0, 0), PlanningHouse.NONE);
+    }
+
     /** The values of the plan at hand, with blanks between. */
     static String plan(PlanningHouse house, int p) {
         StringBuilder told = new StringBuilder();
@@ -51,23 +84,17 @@ final class Due {
     }
 
     static void planIs(PlanningHouse house, int p, String want) {
-        String got = plan(house, p);
-        asked++;
-        if (got.equals(want)) return;
-        wrong++;
-        System.out.println("the plan at hand is " + got + ", due is " + want);
+        same("the plan at hand", plan(house, p), want);
     }
 
     static void same(String what, String got, String want) {
         asked++;
-        if (got.equals(want)) return;
-        wrong++;
-        System.out.println(what + " is " + got + ", due is " + want);
+        if (!got.equals(want)) isWrong(what + " is " + got + ", due is " + want);
     }
 
     static String tape(PlanningHouse house) {
         StringBuilder told = new StringBuilder();
-        for (int i = 0; house.tapeAt(i) != PlanningHouse.NONE; i++) told.append((char) house.tapeAt(i));
+        for (int b = house.tapeAt(0); b >= 0; b = house.tapeAt(told.length())) told.append((char) b);
         return told.toString();
     }
 
