@@ -32,9 +32,35 @@ final class Edge {
         return words.replaceAll("\\s+", " ");
     }
 
+    /** A house whose problem 0 was as large as may be, was asked all that fills rows, and is dropped. */
+    static PlanningHouse used() {
+        StringBuilder text = new StringBuilder();
+        for (int i = 0; i < 16; i++) text.append("fact fact").append(i).append("=9;");
+        for (int i = 0; i < 12; i++) text.append("var var").append(i).append(i < 2 ? " in 90..93;" : " in 7..8;");
+        for (int i = 0; i < 24; i++) text.append("rule rule").append(i).append(i < 12 ? " at 0*999:var1=90;" : " at 1*9:var0=99&all(var0,var1,var2);");
+        for (int i = 0; i < 6; i++) text.append("aim aim").append(i).append(" at 1:var1*9;");
+        PlanningHouse x = new PlanningHouse();
+        Due.is("a large problem", Due.read(x, text.toString()), 0);
+        for (int v = 0; v < 12; v++) {
+            x.put(0, v, v < 2 ? 93 : 8);
+            x.pin(0, v, v > 5);
+            x.weigh(0, v, 500);
+        }
+        for (int u = 0; u < 6; u++) {
+            x.future(0, 50);
+            for (int f = 0; f < 16; f++) x.told(0, u, f, 70);
+        }
+        x.clash(0);
+        x.reach(0);
+        x.front(0);
+        x.solve(0);
+        Due.is("it is gone", x.drop(0), true);
+        return x;
+    }
+
     /** A house with a problem of every sort of statement, of whose doings all are under way. */
     static PlanningHouse house() {
-        PlanningHouse x = new PlanningHouse();
+        PlanningHouse x = used();
         Due.read(x, "fact f=2;fact g=-3;var a in 0..3;var b in{2,-1,5};rule h at 0*1:a#1;rule s at 1*2:a<=f;"
             + "rule t at 2*3:a=b;aim m at 1:a;aim n at 2:b+g;");
         x.change(0, 1, 4);

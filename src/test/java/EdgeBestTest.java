@@ -242,6 +242,10 @@ public final class EdgeBestTest {
         Due.is("the last allowed one", x.feasibleAt(0, 999), true);
         Due.planIs(x, 0, "19 6 9 4");
         Due.is("one more", x.feasibleAt(0, 1000), false);
+        PlanningHouse y = Due.of("var a in 0..9;rule h at 0*1:a>=2;aim m at 1:-a;");
+        Due.is("feasibles, not the best alone", y.feasibles(0), 8);
+        Due.is("the first one", y.feasibleAt(0, 0), true);
+        Due.planIs(y, 0, "2");
     }
 
     private static void has() {
@@ -284,6 +288,8 @@ public final class EdgeBestTest {
         for (int v = 0; v < 4; v++) Due.is("choices", x.choices(0, v), want[v]);
         x.pin(0, 0, true);
         Due.is("choices of a pinned one", x.choices(0, 0), 1);
+        PlanningHouse y = Due.of("var a in 0..3;rule s at 1*1:a=0|a=3;");
+        Due.is("the first and the last", y.choices(0, 0), 2);
     }
 
     private static void mend() {
@@ -525,6 +531,7 @@ public final class EdgeBestTest {
         for (int value : new int[] {-1, 5, LEAST, MOST}) Due.is("no value", x.because(0, 0, value), PlanningHouse.NONE);
         PlanningHouse y = Due.of(text.toString().replace("a=9", "a<=9") + "rule z at 2*1000:a>=2;");
         Due.is("the last rule", y.because(0, 0, 1), 23);
+        Due.is("the first rule of all", Due.of("var a in 0..1;rule r at 1*1:a=0;rule s at 1*1:a=0;").because(0, 0, 1), 0);
         y.put(0, 0, 1);
         y.pin(0, 0, true);
         Due.is("the only allowed one", y.because(0, 0, 1), PlanningHouse.NONE);

@@ -34,6 +34,7 @@ public final class EdgeCallsTest {
         pin();
         weigh();
         planAtHand();
+        usedAgain();
         Due.end();
     }
 
@@ -421,6 +422,8 @@ public final class EdgeCallsTest {
         }
         x.change(0, 0, 1);
         Due.is("by the facts as they are", x.rule(0, 3, 3), 1);
+        x.change(0, 0, 0);
+        Due.is("by the facts as they are again", x.rule(0, 3, 3), 0);
         PlanningHouse y = new PlanningHouse();
         StringBuilder many = new StringBuilder("var a in 0..1;");
         for (int r = 0; r < 24; r++) many.append("rule r").append(r).append(" at 2*1:a<=").append(r % 2).append(";");
@@ -505,5 +508,56 @@ public final class EdgeCallsTest {
         x.put(0, 0, 3);
         Due.is("a soft one is broken", x.broken(0, 1), 1);
         Due.is("feasible", x.feasible(0), true);
+    }
+
+    /** Nothing of a problem that is gone is left in the next one of its number, whether that is read or loaded. */
+    private static void usedAgain() {
+        Edge.of(8, "The problem is gone, and its number is free.");
+        String[] texts = {"var a in 0..1;", "fact f=1;var a in 0..1;var b in 0..1;rule r at 1*2:a=b;rule h at 0*1:b=1;aim m at 2:-a;"};
+        for (String text : texts) {
+            PlanningHouse stored = Due.of(text);
+            String fresh = lookedAt(Due.of(text));
+            PlanningHouse x = Edge.used();
+            Due.is("read", Due.read(x, text), 0);
+            Due.same("all that was read", lookedAt(x), fresh);
+            PlanningHouse y = Edge.used();
+            stored.save(0);
+            stored.take();
+            Due.type(y, Due.tape(stored));
+            Due.is("bring", y.bring(), 1);
+            Due.is("load", y.load(0), 0);
+            Due.same("all that was loaded", lookedAt(y), fresh);
+            PlanningHouse z = Edge.used();
+            Due.is("a fault", Due.read(z, text + "fact g=1;rule x at 0*1:all(a)&~~~~~{(1=1};"), -1 - text.length() - 38);
+            Due.is("read", Due.read(z, text), 0);
+            Due.same("all that was read", lookedAt(z), fresh);
+        }
+    }
+
+    /** All that a problem 0 of few values tells. */
+    private static String lookedAt(PlanningHouse x) {
+        StringBuilder told = new StringBuilder();
+        for (int what = 0; what < 9; what++) told.append(x.count(0, what)).append(' ');
+        for (int kind = 0; kind < 4; kind++) {
+            for (int k = 0; k < 4; k++) told.append(x.letter(0, kind, k, 0)).append(' ').append(x.letter(0, kind, k, 1)).append(' ');
+        }
+        for (int i = 0; i < 3; i++) {
+            told.append(x.fact(0, i)).append(' ').append(x.value(0, i)).append(' ').append(x.aim(0, i)).append(' ').append(x.score(0, i)).append(' ');
+            for (int what = 0; what < 4; what++) told.append(x.rule(0, i, what)).append(' ');
+            for (int k = 0; k < 3; k++) told.append(x.range(0, i, k)).append(' ').append(x.isLeft(0, i, k)).append(' ');
+            told.append(x.broken(0, i)).append(' ').append(x.best(0, i)).append(' ').append(x.choices(0, i)).append(' ');
+            told.append(x.frontAt(0, i, 0)).append(' ').append(x.without(0, i, 1)).append(' ').append(x.whyNot(0, 0, 1, i)).append(' ');
+        }
+        told.append(x.feasible(0)).append(x.reach(0)).append(' ').append(x.hopeless(0)).append(' ').append(x.bests(0)).append(' ');
+        told.append(x.feasibles(0)).append(' ').append(x.front(0)).append(' ').append(x.clash(0)).append(' ').append(x.fewest(0)).append(' ');
+        told.append(x.relax(0)).append(' ').append(x.because(0, 0, 1)).append(' ').append(x.robust(0)).append(' ').append(x.expected(0, 1)).append(' ');
+        x.cut(0);
+        Due.type(x, "<");
+        told.append(x.check(0)).append(' ').append(x.solve(0)).append(' ').append(x.check(0)).append(' ').append(x.prove(0)).append(' ');
+        x.future(0, 3);
+        for (int level = 0; level < 3; level++) told.append(x.expected(0, level)).append(' ').append(x.regret(0, level)).append(' ');
+        told.append(x.near(0, true)).append(' ').append(x.search(0, 2, 2, 5, 20)).append(' ').append(x.searched(0)).append(' ');
+        for (int v = 0; v < 3; v++) told.append(x.weigh(0, v, 1)).append(' ').append(x.pin(0, v, true)).append(' ').append(x.value(0, v)).append(' ');
+        return told.toString();
     }
 }

@@ -120,6 +120,14 @@ public final class EdgeProofTest {
         fault(x, "@!h", 8);
         fault(x, "a(<,<,<,@!i)", 8);
         fault(x, "a(<,<,<,b(!h,@!i))", 8);
+        StringBuilder many = new StringBuilder("var a in 0..3;");
+        for (int r = 0; r < 23; r++) many.append("rule r").append(r).append(r < 11 ? " at 0*1:a=a;" : " at 1*1:a=9;");
+        PlanningHouse last = Due.of(many + "rule z at 0*1:a>=2;");
+        last.put(0, 0, 3);
+        right(last, "a(!z,!z,.,.)");
+        fault(last, "a(!z,!z,@!z,.)", 8);
+        fault(last, "a(!z,@!r10,.,.)", 8);
+        fault(last, "a(!z,!@r11,.,.)", 4);
         PlanningHouse y = Due.of("fact f=9;var a in 0..3;rule h at 0*1:a>=f;");
         right(y, "!h");
         y.change(0, 0, 3);
@@ -372,5 +380,11 @@ public final class EdgeProofTest {
         PlanningHouse y = longOne("aaaa");
         y.pin(0, 0, true);
         Due.is("without a pinned one", y.prove(0), 9997);
+        y.pin(0, 0, false);
+        y.pin(0, 1, true);
+        Due.is("without another one", y.prove(0), 4 + 2 + 2 * 907 + 1);
+        y.pin(0, 1, false);
+        y.pin(0, 3, true);
+        Due.is("without the last one", y.prove(0), 7 + 2 * (8 + 2 + 11 * (6 + 2 + 20 + 19) + 10));
     }
 }

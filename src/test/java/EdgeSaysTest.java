@@ -301,6 +301,7 @@ public final class EdgeSaysTest {
         broken("ring(" + names(12) + ")", 1, 1, 2, 3, 4, 5, 6, 7, 8, 9, 10, 11, 12);
         broken("ring(" + names(12) + ")", 1, 1, 2, 3, 4, 5, 6, 7, 8, 9, 10, 11, 1);
         broken("ring(a,a)", 1, 0);
+        broken("ring(a,b,c)&all(a,b,c)", 1, 2, 1, 3, 2);
         broken("ring(a,b,a)", 1, 1, 0);
     }
 
@@ -316,6 +317,8 @@ public final class EdgeSaysTest {
         broken("auto(a:(0,-5,0):0)", 0, -5);
         broken("auto(a:(0,5,2),(0,5,1):1)", 1, 5);
         broken("auto(a:(0,5,1),(0,5,2):1)", 0, 5);
+        broken("auto(a:(0,5,0),(0,5,1):1)", 1, 5);
+        broken("auto(a:(0,5,0),(0,5,1):0)", 0, 5);
         broken("auto(a,b:(0,5,1),(0,5,2),(2,6,3):3)", 1, 5, 6);
         broken("auto(a,b:(0,5,1),(0,6,1):1)", 1, 5, 6);
         broken("auto(a,b:(0,5,1),(1,6,9):9)", 0, 5, 6);
@@ -376,6 +379,16 @@ public final class EdgeSaysTest {
         broken(two, 1, 0, 0, 0, 2);
         broken(two, 0, 0, 0, 0, 3);
         broken(two, 0, 4, 5, 0, 0);
+        for (int x : new int[] {-9, 7, 50}) {
+            for (int y : new int[] {-20, 3, 70}) {
+                broken(two, 1, x, y, x + 1, y + 2);
+                broken(two, 0, x, y, x + 2, y);
+                broken(two, 0, x, y, x, y + 3);
+                broken(two, 1, x, y, x - 3, y - 4);
+                broken(two, 0, x, y, x - 4, y);
+                broken(two, 0, x, y, x, y - 5);
+            }
+        }
         broken(two, 1, -1, -1, 0, 0);
         broken(two, 0, -2, 0, 0, 0);
         broken("apart((a,b,0,1),(a,b,1,1))", 0, 0, 0);

@@ -22,6 +22,7 @@ public final class EdgeSearchTest {
         equalOnes();
         barred();
         slack();
+        again();
         Due.end();
     }
 
@@ -103,7 +104,6 @@ public final class EdgeSearchTest {
     private static void none(PlanningHouse x, int seed) {
         String plan = Due.plan(x, 0);
         for (int how = 0; how < 4; how++) {
-            x.search(0, 0, 0, 1, 0);
             Due.is("search with none free", x.search(0, how, 1, seed, 2000), 0);
             Due.is("t", x.searched(0), 1);
             Due.is("the seed", x.searched(1), seed);
@@ -122,6 +122,9 @@ public final class EdgeSearchTest {
         x.pin(0, 0, false);
         Due.is("a free one", x.search(0, 0, 0, 9, 100) > 0, true);
         Due.is("it is the best now", x.value(0, 0), 3);
+        Due.is("it was found", x.searched(2) >= 0, true);
+        x.pin(0, 0, true);
+        none(x, 6);
         none(pinned(), MOST);
     }
 
@@ -240,6 +243,26 @@ public final class EdgeSearchTest {
             same("var a in 0..4;var b in 0..4;rule h at 0*1:a>=2;aim m at 1:b;aim n at 2:a-3*b;", 0, 3, 9999, seed, 50);
             same("var a in 0..19;aim n at 2:a;", 0, 3, 1 + seed % 9, seed, 7);
             same("var a in 0..19;aim n at 2:a;", 0, 3, 7, seed, 30);
+        }
+    }
+
+    /** A search knows nothing of the one before. */
+    private static void again() {
+        Edge.of(Edge.TERMS, "z is the seed at first");
+        for (int seed = 0; seed < 20; seed++) {
+            for (int how = 0; how < 4; how++) {
+                String text = TEXTS[1 + seed % 3];
+                PlanningHouse once = Due.of(text);
+                PlanningHouse twice = Due.of(text);
+                twice.search(0, (how + seed) % 4, 5, seed * 77, 60);
+                for (int v = 0; v < twice.count(0, 1); v++) twice.put(0, v, (int) twice.range(0, v, 0));
+                Due.is("a second search", twice.search(0, how, 3, seed, 30), once.search(0, how, 3, seed, 30));
+                for (int what = 0; what < 3; what++) Due.is("searched", twice.searched(what), once.searched(what));
+                Due.same("the plan at hand", Due.plan(twice, 0), Due.plan(once, 0));
+                twice.search(0, how, 3, seed, 0);
+                Due.is("t", twice.searched(0), 1);
+                Due.is("the step", twice.searched(2), PlanningHouse.NONE);
+            }
         }
     }
 }

@@ -309,6 +309,13 @@ public final class EdgeTextsTest {
         Due.fine(RULE + "a=1->".repeat(6) + "~".repeat(6) + "a=1&" + "~".repeat(6) + "a=1;");
         Due.fault(RULE + "a=1->".repeat(6) + "~".repeat(6) + "a=1&" + "~".repeat(6) + "@~a=1;", 7);
         Due.fault(RULE + "a=" + "-".repeat(11) + "(@-a);", 7);
+        PlanningHouse x = new PlanningHouse();
+        for (String open : new String[] {"(", "{", "[", "~", "-", "abs(", "1=1->"}) {
+            Due.is("a fault within twelve", Due.read(x, RULE + (open.equals("-") ? "a=" : "") + open.repeat(12) + "$") < 0, true);
+            Due.is("its code", x.fault(), 1);
+            Due.is("none is open in the next text", Due.read(x, RULE + "~".repeat(12) + "a=1;"), 0);
+            x.drop(0);
+        }
         String next = RULE + "~".repeat(12) + "a=1;rule s at 0*1:" + "~".repeat(12) + "a=1;";
         Due.fine(next + "aim m at 1:" + "(".repeat(12) + "a" + ")".repeat(12) + ";");
     }
@@ -344,10 +351,11 @@ public final class EdgeTextsTest {
         Edge.of(Edge.TERMS, "4 another NAME that is not told before, or not as is wanted: a var or a fact in FACTORs, else a var");
         String text = VARS + "rule q at 0*1:a=1;aim m at 1:a;rule r at 0*1:";
         Due.fine(text + "a=f;");
+        String[] factors = {"#=1", "1=#", "1=a+-#", "a+#=1", "a-#=1", "a*#=1", "a*a*#=1", "(#)=1", "abs(#)=1", "min(#)=1", "min(a,#)=1", "max(#,a)=1",
+            "max(1,2,#)=1", "pick(#:1)=1", "[#=1]=1", "{#=1}", "~#=1", "1=1|#=1", "1=1|1=1|#=1", "1=1&#=1", "1=1&1=1&#=1", "1=1->#=1", "1=1->1=1->#=1"};
         for (String name : new String[] {"q", "m", "x", "A", "F", "ab", "r"}) {
-            Due.fault(text + "@" + name + "=1;", 4);
-            Due.fault(text + "1=a+-@" + name + ";", 4);
-            Due.fault(text + "1=min(a,@" + name + ");", 4);
+            for (String factor : factors) Due.fault(text + factor.replace("#", "@" + name) + ";", 4);
+            Due.fault(VARS + "rule q at 0*1:a=1;aim m at 1:a;aim r at 1:a*@" + name + ";", 4);
         }
         for (String name : new String[] {"f", "q", "m", "x", "B", "r"}) {
             Due.fault(text + "all(@" + name + ");", 4);
@@ -410,6 +418,7 @@ public final class EdgeTextsTest {
         }
         Due.fault(VARS + "aim m at @0:a;", 5);
         Due.fault(VARS + "aim m at @3:a;", 5);
+        Due.fault(VARS + "aim m at @-1:a;", 2);
         Due.fine(VARS + "rule r at 0*1:a=1;rule s at 0*1000:a=1;");
         Due.fault(VARS + "rule r at 0*@0:a=1;", 5);
         Due.fault(VARS + "rule r at 0*@1001:a=1;", 5);
