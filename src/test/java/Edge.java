@@ -35,20 +35,21 @@ final class Edge {
     /** A house whose problem 0 was as large as may be, was asked all that fills rows, and is dropped. */
     static PlanningHouse used() {
         StringBuilder text = new StringBuilder();
-        for (int i = 0; i < 16; i++) text.append("fact fact").append(i).append("=9;");
-        for (int i = 0; i < 12; i++) text.append("var var").append(i).append(i < 2 ? " in 90..93;" : " in 7..8;");
-        for (int i = 0; i < 24; i++) text.append("rule rule").append(i).append(i < 12 ? " at 0*999:var1=90;" : " at 1*9:var0=99&all(var0,var1,var2);");
-        for (int i = 0; i < 6; i++) text.append("aim aim").append(i).append(" at 1:var1*9;");
+        for (int i = 0; i < 16; i++) text.append("fact F").append(i).append("=9;");
+        for (int i = 0; i < 12; i++) text.append("var V").append(i).append(i < 2 ? " in 90..93;" : i < 4 ? " in 7..8;" : " in 7..7;");
+        for (int i = 0; i < 24; i++) text.append("rule R").append(i).append(i < 12 ? " at 0*9:V1=90;" : " at 1*9:V0=99;");
+        for (int i = 0; i < 6; i++) text.append("aim A").append(i).append(i < 5 ? " at 1:V1*9;" : " at 2:[all(V0,V1,V2)];");
         PlanningHouse x = new PlanningHouse();
         Due.is("a large problem", Due.read(x, text.toString()), 0);
-        for (int v = 0; v < 12; v++) {
+        for (int v = 0; v < 12; v += 3) {
             x.put(0, v, v < 2 ? 93 : 8);
             x.pin(0, v, v > 5);
             x.weigh(0, v, 500);
         }
         for (int u = 0; u < 6; u++) {
             x.future(0, 50);
-            for (int f = 0; f < 16; f++) x.told(0, u, f, 70);
+            x.told(0, u, 0, 70);
+            x.told(0, u, 1, 71);
         }
         x.clash(0);
         x.reach(0);

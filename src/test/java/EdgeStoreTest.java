@@ -83,13 +83,14 @@ public final class EdgeStoreTest {
         return x;
     }
 
-    /** A problem whose text has just so many bytes, 9300 or more: the proof of 4000 plans becomes a remark. */
+    /** A problem whose text has just so many bytes, up to 20000: a long proof is cut off, and becomes a remark. */
     private static int large(PlanningHouse x, int wide) {
-        int p = Due.read(x, "var a in 0..19;var b in 0..19;var c in 0..9;");
-        int proof = x.prove(p);
-        x.spoil(0, 'a' ^ '%');
-        Due.type(x, " ".repeat(wide - proof - 1 - SMALL.length()) + "\n" + SMALL);
+        int p = Due.read(x, "var aaa in 0..1;var bbbbbbbb in 0..10;var cccccc in 0..19;var ddd in 0..19;");
+        Due.is("prove", x.prove(p), 20000);
         x.drop(p);
+        x.spoil(0, 'a' ^ '%');
+        x.cut(wide - 1 - SMALL.length());
+        Due.type(x, "\n" + SMALL);
         Due.is("a large problem", x.problem(), p);
         Due.is("bytes of its text", x.count(p, 8), wide);
         return p;
@@ -146,7 +147,9 @@ public final class EdgeStoreTest {
             x.pin(0, v, v == 0 || v == 11 || v == 8);
         }
         x.save(0);
-        Due.same("the row", stored(x), row(text.toString(), state + number(2048 + 256 + 1, 2)));
+        String want = row(text.toString(), state + number(2048 + 256 + 1, 2));
+        Due.is("size", x.size(), want.length());
+        for (int i = text.length() - 1; i < want.length(); i++) Due.is("byte " + i, x.byteAt(i), want.charAt(i));
         x.drop(0);
         Due.is("load", x.load(0), 0);
         for (int v = 0; v < 12; v++) {
@@ -536,24 +539,19 @@ public final class EdgeStoreTest {
         Due.is("no row more", storeWith(100, export(0, "")).get().bring(), 0);
         Due.is("a hundred at once", typed(new PlanningHouse(), export(100, fifty + fifty)).bring(), 100);
         Edge.refused("101 at once", () -> typed(new PlanningHouse(), export(101, fifty + fifty + small())), y -> y.bring(), PlanningHouse.FULL);
-        String many = small().repeat(700);
-        Edge.refused("700 at once", () -> typed(new PlanningHouse(), export(700, many)), y -> y.bring(), PlanningHouse.FULL);
     }
 
     /** A store of a row of so many bytes, and a tape that is an export of such a one of so many. */
     private static PlanningHouse largeExport(int row, int brought) {
         PlanningHouse x = new PlanningHouse();
         int p = large(x, brought - 16);
+        int q = large(x, row - 16);
         x.save(p);
-        x.take();
+        Due.is("take", x.take(), brought + 10);
         Due.is("crash", x.crash(0), 0);
-        x.drop(p);
-        Due.is("the export", x.cut(brought + 10), brought + 10);
-        String tape = Due.tape(x);
-        PlanningHouse y = new PlanningHouse();
-        int q = large(y, row - 16);
-        y.save(q);
-        return typed(y, tape);
+        Due.is("save", x.save(q), 0);
+        Due.is("size", x.size(), row);
+        return x;
     }
 
     private static void tooManyBytes() {

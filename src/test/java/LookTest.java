@@ -90,7 +90,7 @@ public final class LookTest {
 
     private static String shown(PlanningHouse x, int k) {
         StringBuilder told = new StringBuilder();
-        for (int i = 0; x.shown(0, k, i) != PlanningHouse.NONE; i++) told.append((char) x.shown(0, k, i));
+        for (int b = x.shown(0, k, 0); b >= 0; b = x.shown(0, k, told.length())) told.append((char) b);
         return told.toString();
     }
 

@@ -65,8 +65,8 @@ public final class RoomTest {
         x.problem();
         x.save(0);
         long before = 0;
-        for (int i = 0; i < 40; i++) {
-            if (i == 20) before = threads.getThreadAllocatedBytes(id);
+        for (int i = 0; i < 36; i++) {
+            if (i == 18) before = threads.getThreadAllocatedBytes(id);
             x.change(0, 0, i % 5);
             x.solve(0);
             x.front(0);
