@@ -58,25 +58,20 @@ public final class BestTest {
         Due.planIs(x, 0, "2 2");
     }
 
-    private static void board(PlanningHouse x, long above, long below) {
-        Due.is("above()", x.above(), above);
-        Due.is("below()", x.below(), below);
-    }
-
     private static void having() {
         PlanningHouse x = Due.of(TEXT);
         Due.is("has 3", x.has(0, 0, 3, false), 4);
-        board(x, 2, 5);
+        Due.board(x, 2, 5);
         Due.is("has 1", x.has(0, 0, 1, true), 1);
-        board(x, 1, 2);
+        Due.board(x, 1, 2);
         Due.is("no such var", x.has(0, 2, 1, true), PlanningHouse.NONE);
         Due.is("no such var", x.has(0, -1, 1, true), PlanningHouse.NONE);
         Due.is("no such problem", x.has(1, 0, 1, true), PlanningHouse.NONE);
-        board(x, 1, 2);
+        Due.board(x, 1, 2);
         Due.is("has 0", x.has(0, 0, 0, true), 0);
-        board(x, 0, 1);
+        Due.board(x, 0, 1);
         Due.is("none of the range", x.has(0, 0, 77, false), 0);
-        board(x, 0, 1);
+        Due.board(x, 0, 1);
         Due.is("choices of a", x.choices(0, 0), 2);
         Due.is("choices of b", x.choices(0, 1), 2);
         Due.is("choices of none", x.choices(0, 2), PlanningHouse.NONE);
@@ -84,7 +79,7 @@ public final class BestTest {
         x.put(0, 0, 3);
         x.pin(0, 0, true);
         Due.is("has all", x.has(0, 0, 3, false), 4);
-        board(x, 1, 1);
+        Due.board(x, 1, 1);
         Due.is("choices of b", x.choices(0, 1), 1);
         PlanningHouse y = Due.of("var a in 0..5; var b in 0..1; rule r at 1*1: b = 1;");
         Due.is("choices of six", y.choices(0, 0), 6);
@@ -135,9 +130,9 @@ public final class BestTest {
         Due.is("feasibles", x.feasibles(0), 0);
         Due.is("feasibleAt", x.feasibleAt(0, 0), false);
         Due.is("has", x.has(0, 0, 1, true), 0);
-        board(x, 0, 1);
+        Due.board(x, 0, 1);
         Due.is("has", x.has(0, 0, 1, false), 0);
-        board(x, 0, 1);
+        Due.board(x, 0, 1);
         Due.is("choices", x.choices(0, 0), 0);
         Due.is("mend", x.mend(0, 3), 0);
         Due.planIs(x, 0, "1 0");

@@ -87,6 +87,40 @@ final class Due {
         same("the plan at hand", plan(house, p), want);
     }
 
+    /** What THE BOARD shows. */
+    static void board(PlanningHouse x, long above, long below) {
+        is("above()", x.above(), above);
+        is("below()", x.below(), below);
+    }
+
+    /** The values that are left of a var of problem 0, with blanks between. */
+    static void left(PlanningHouse x, int v, String want) {
+        StringBuilder got = new StringBuilder();
+        for (int k = 0; x.range(0, v, k) != PlanningHouse.NO; k++) {
+            if (x.isLeft(0, v, k)) got.append(got.length() == 0 ? "" : " ").append(x.range(0, v, k));
+        }
+        same("left of var " + v, got.toString(), want);
+    }
+
+    /** A proof that is right for the plan at hand of problem 0. */
+    static void proved(PlanningHouse x, String proof) {
+        checked(x, proof, 0, 0);
+    }
+
+    /** A proof with a fault, whose place is marked by an at sign, which itself is left out. */
+    static void notProved(PlanningHouse x, String marked, int code) {
+        int place = marked.indexOf('@');
+        checked(x, marked.substring(0, place) + marked.substring(place + 1), -1 - place, code);
+    }
+
+    private static void checked(PlanningHouse x, String proof, int answer, int code) {
+        x.cut(0);
+        type(x, proof);
+        is("check of " + proof, x.check(0), answer);
+        is("fault of " + proof, x.fault(), code);
+        is("the tape stays behind check of " + proof, x.cut(proof.length()), proof.length());
+    }
+
     static void same(String what, String got, String want) {
         asked++;
         if (!got.equals(want)) isWrong(what + " is " + got + ", due is " + want);

@@ -44,20 +44,7 @@ public final class EdgeBestTest {
         return x;
     }
 
-    private static void board(PlanningHouse x, long above, long below) {
-        Due.is("above()", x.above(), above);
-        Due.is("below()", x.below(), below);
-    }
-
     // ---- what rules leave
-
-    private static void left(PlanningHouse x, int v, String want) {
-        StringBuilder got = new StringBuilder();
-        for (int k = 0; x.range(0, v, k) != PlanningHouse.NO; k++) {
-            if (x.isLeft(0, v, k)) got.append(got.length() == 0 ? "" : " ").append(x.range(0, v, k));
-        }
-        Due.same("left of var " + v, got.toString(), want);
-    }
 
     private static void reach() {
         Edge.of(25, "What is LEFT is worked out: how many values, of all vars together; NONE without the problem.");
@@ -72,13 +59,13 @@ public final class EdgeBestTest {
         Due.is("one after the other until the end", x.reach(0), 0);
         PlanningHouse y = Due.of("var a in 0..19;var b in 0..19;rule r at 0*1:a<b;rule s at 0*1:b<a|a=18;");
         Due.is("until two are left", y.reach(0), 2);
-        left(y, 0, "18");
-        left(y, 1, "19");
+        Due.left(y, 0, "18");
+        Due.left(y, 1, "19");
         PlanningHouse z = Due.of("var a in 0..1;var b in 0..1;rule r at 0*1:a=b;rule s at 0*1:a#b;");
         Due.is("each rule for itself leaves all", z.reach(0), 4);
         PlanningHouse w = Due.of("var a in 0..1;var b in 0..9;rule r at 0*1:a>1;");
         Due.is("none of a, so none of b", w.reach(0), 0);
-        left(w, 1, "");
+        Due.left(w, 1, "");
         Edge.of(Edge.TERMS, "for each var its range (of a pinned one its value at hand)");
         PlanningHouse v = Due.of("var a in 0..3;var b in 0..3;rule r at 0*1:a+b=4;");
         Due.is("without pins", v.reach(0), 6);
@@ -86,8 +73,8 @@ public final class EdgeBestTest {
         Due.is("the plan at hand does not matter", v.reach(0), 6);
         v.pin(0, 0, true);
         Due.is("with a pin", v.reach(0), 2);
-        left(v, 0, "2");
-        left(v, 1, "2");
+        Due.left(v, 0, "2");
+        Due.left(v, 1, "2");
         v.put(0, 0, 0);
         Due.is("with a pin that can't be", v.reach(0), 0);
         Due.is("reach changes nothing", v.value(0, 0), 0);
@@ -172,7 +159,7 @@ public final class EdgeBestTest {
             PlanningHouse x = hopelessHouse();
             Due.is("the board before", x.below() > 1 || x.above() != 0, true);
             Due.is("has", x.has(0, 0, 2, n == 1), 0);
-            board(x, 0, 1);
+            Due.board(x, 0, 1);
         }
     }
 
@@ -252,33 +239,33 @@ public final class EdgeBestTest {
         Edge.of(34, "In how many feasible allowed plans (or, best, in how many of the BEST) var v has a value; the board shows that by all of these");
         PlanningHouse x = Due.of(LARGE + "aim m at 2:d;");
         Due.is("has", x.has(0, 3, 4, false), 4000);
-        board(x, 1, 5);
+        Due.board(x, 1, 5);
         Due.is("has", x.has(0, 3, 0, true), 4000);
-        board(x, 1, 1);
+        Due.board(x, 1, 1);
         Due.is("has", x.has(0, 3, 1, true), 0);
-        board(x, 0, 1);
+        Due.board(x, 0, 1);
         Due.is("has", x.has(0, 0, 19, true), 200);
-        board(x, 1, 20);
+        Due.board(x, 1, 20);
         for (int value : new int[] {-1, 5, LEAST, MOST}) {
             x.has(0, 0, 19, true);
             Due.is("a value of no range", x.has(0, 3, value, false), 0);
-            board(x, 0, 1);
+            Due.board(x, 0, 1);
         }
         PlanningHouse y = Due.of("var a in 0..5;rule h at 0*1:a#3;");
         Due.is("has", y.has(0, 0, 3, false), 0);
-        board(y, 0, 1);
+        Due.board(y, 0, 1);
         Due.is("has", y.has(0, 0, 4, false), 1);
-        board(y, 1, 5);
+        Due.board(y, 1, 5);
         Due.is("no such var", y.has(0, 1, 4, false), PlanningHouse.NONE);
-        board(y, 1, 5);
+        Due.board(y, 1, 5);
         Edge.of(57, "what stands above the line of the fraction shown last, in least terms, with the sign.");
         PlanningHouse z = Due.of("var a in 0..3;var b in 0..2;rule h at 0*1:a>0|b>0;");
         Due.is("has", z.has(0, 1, 0, false), 3);
-        board(z, 3, 11);
+        Due.board(z, 3, 11);
         z.pin(0, 0, true);
         z.put(0, 0, 1);
         Due.is("has", z.has(0, 1, 0, false), 1);
-        board(z, 1, 3);
+        Due.board(z, 1, 3);
     }
 
     private static void choices() {

@@ -147,11 +147,6 @@ public final class EdgeFutureTest {
         return x;
     }
 
-    private static void board(PlanningHouse x, long above, long below) {
-        Due.is("above()", x.above(), above);
-        Due.is("below()", x.below(), below);
-    }
-
     private static void expected() {
         Edge.of(51, "For the plan at hand the sum, over all futures, of odds times its score at a level, and the board shows that by the sum of odds;"
             + " NO, and the board stays, without futures or such a level.");
@@ -162,11 +157,11 @@ public final class EdgeFutureTest {
         for (int level : new int[] {-1, 3, LEAST, MOST}) Edge.refused("expected at " + level, x -> x.expected(0, level), PlanningHouse.NO);
         PlanningHouse x = dark();
         Due.is("expected", x.expected(0, 0), 5 * 2);
-        board(x, 5, 4);
+        Due.board(x, 5, 4);
         Due.is("expected", x.expected(0, 1), 8 * 2);
-        board(x, 2, 1);
+        Due.board(x, 2, 1);
         Due.is("expected", x.expected(0, 2), 0);
-        board(x, 0, 1);
+        Due.board(x, 0, 1);
     }
 
     private static void regret() {
@@ -205,7 +200,7 @@ public final class EdgeFutureTest {
     private static void board() {
         Edge.of(57, "THE BOARD: what stands above the line of the fraction shown last, in least terms, with the sign.");
         Edge.of(58, "What stands below it, 1 or more.");
-        board(new PlanningHouse(), 0, 1);
+        Due.board(new PlanningHouse(), 0, 1);
         int[][] odds = {{1}, {2}, {3}, {100, 100, 100, 100, 100, 100}, {4, 2}, {7}};
         int[][] facts = {{0}, {1}, {-1}, {1, 1, 1, 1, 1, 2}, {-3, 0}, {9999}};
         long[][] want = {{0, 1}, {1, 1}, {-1, 1}, {7, 6}, {-2, 1}, {9999, 1}};
@@ -216,7 +211,7 @@ public final class EdgeFutureTest {
                 x.told(0, u, 0, facts[i][u]);
             }
             x.expected(0, 2);
-            board(x, want[i][0], want[i][1]);
+            Due.board(x, want[i][0], want[i][1]);
         }
         PlanningHouse x = Due.of("fact f=0;var a in 0..1;aim m at 2:f;");
         x.future(0, 97);
@@ -232,7 +227,7 @@ public final class EdgeFutureTest {
                     by /= n;
                 }
             }
-            if (value % 40 == 0 || value > 95) board(x, part, by);
+            if (value % 40 == 0 || value > 95) Due.board(x, part, by);
         }
     }
 

@@ -21,25 +21,6 @@ public final class EdgeProofTest {
         Due.end();
     }
 
-    private static void right(PlanningHouse x, String proof) {
-        x.cut(0);
-        Due.type(x, proof);
-        Due.is("check of " + proof, x.check(0), 0);
-        Due.is("fault of " + proof, x.fault(), 0);
-        Due.is("the tape stays", x.cut(proof.length()), proof.length());
-    }
-
-    /** The place of the fault is marked by an at sign, which itself is left out. */
-    private static void fault(PlanningHouse x, String marked, int code) {
-        int place = marked.indexOf('@');
-        String proof = marked.substring(0, place) + marked.substring(place + 1);
-        x.cut(0);
-        Due.type(x, proof);
-        Due.is("check of " + marked, x.check(0), -1 - place);
-        Due.is("fault of " + marked, x.fault(), code);
-        Due.is("the tape stays", x.cut(proof.length()), proof.length());
-    }
-
     private static PlanningHouse at(int a, int b) {
         PlanningHouse x = Due.of(TEXT);
         Due.is("put", x.put(0, 0, a), true);
@@ -64,76 +45,76 @@ public final class EdgeProofTest {
             boolean letter = c >= 'a' && c <= 'z' || c >= 'A' && c <= 'Z';
             boolean begins = c >= '0' && c <= '9' || ";=#>+-*()[]{},:&|~".indexOf(c) >= 0;
             PlanningHouse y = at(1, 7);
-            if (blank || c == '%') fault(y, c + "@", 2);
-            else if (c == '!') fault(y, "!@", 2);
-            else if (c == 'a' || c == 'b') fault(y, c + "@", 2);
-            else if (c == '.' || c == '<') fault(y, "@" + c, 8);
-            else fault(y, "@" + c, letter ? 4 : begins ? 2 : 1);
+            if (blank || c == '%') Due.notProved(y, c + "@", 2);
+            else if (c == '!') Due.notProved(y, "!@", 2);
+            else if (c == 'a' || c == 'b') Due.notProved(y, c + "@", 2);
+            else if (c == '.' || c == '<') Due.notProved(y, "@" + c, 8);
+            else Due.notProved(y, "@" + c, letter ? 4 : begins ? 2 : 1);
         }
-        fault(x, "@", 2);
-        fault(x, "% .\n@", 2);
-        fault(x, "@..", 2);
-        fault(x, "@<=", 2);
-        fault(x, "@abcdefghi", 1);
-        fault(x, "@12345", 1);
-        fault(x, "@max", 2);
-        fault(x, "@fact(.)", 2);
-        fault(x, "a(<,<,<,!h)@.", 2);
-        fault(x, "a(<,<,<,!h)@,", 2);
-        fault(x, "a(<,<,<,!h)@\u00ff", 1);
-        fault(x, "a(<,<,<,!h@", 2);
-        fault(x, "a(<,<,<,!@", 2);
-        fault(x, "a@", 2);
-        fault(x, "a(@", 2);
-        fault(x, "!@", 2);
-        fault(x, "!@!h", 2);
-        fault(x, "!@.", 2);
-        fault(x, "!@max", 2);
-        fault(x, "!@abcdefghi", 1);
-        right(x, " %\n a % \n(\t<\r, <,<, ! h ) % the end");
+        Due.notProved(x, "@", 2);
+        Due.notProved(x, "% .\n@", 2);
+        Due.notProved(x, "@..", 2);
+        Due.notProved(x, "@<=", 2);
+        Due.notProved(x, "@abcdefghi", 1);
+        Due.notProved(x, "@12345", 1);
+        Due.notProved(x, "@max", 2);
+        Due.notProved(x, "@fact(.)", 2);
+        Due.notProved(x, "a(<,<,<,!h)@.", 2);
+        Due.notProved(x, "a(<,<,<,!h)@,", 2);
+        Due.notProved(x, "a(<,<,<,!h)@\u00ff", 1);
+        Due.notProved(x, "a(<,<,<,!h@", 2);
+        Due.notProved(x, "a(<,<,<,!@", 2);
+        Due.notProved(x, "a@", 2);
+        Due.notProved(x, "a(@", 2);
+        Due.notProved(x, "!@", 2);
+        Due.notProved(x, "!@!h", 2);
+        Due.notProved(x, "!@.", 2);
+        Due.notProved(x, "!@max", 2);
+        Due.notProved(x, "!@abcdefghi", 1);
+        Due.proved(x, " %\n a % \n(\t<\r, <,<, ! h ) % the end");
     }
 
     private static void names() {
         Edge.of(Edge.TERMS, "a NAME behind ! that is no hard rule's, and one with which a TREE begins that is no var's, or that of a var that is given, at it");
         PlanningHouse x = at(1, 7);
         for (String name : new String[] {"s", "m", "a", "b", "x", "H"}) {
-            fault(x, "! @" + name, 4);
-            fault(x, "a(<,<,<,!@" + name + ")", 4);
+            Due.notProved(x, "! @" + name, 4);
+            Due.notProved(x, "a(<,<,<,!@" + name + ")", 4);
         }
         for (String name : new String[] {"h", "i", "s", "m", "x", "A"}) {
-            fault(x, "@" + name + "(<,<)", 4);
-            fault(x, "@" + name, 4);
-            fault(x, "a(<,<,<,@" + name + "(<))", 4);
+            Due.notProved(x, "@" + name + "(<,<)", 4);
+            Due.notProved(x, "@" + name, 4);
+            Due.notProved(x, "a(<,<,<,@" + name + "(<))", 4);
         }
-        fault(x, "a(@a(<,<,<,<),<,<,!h)", 4);
-        fault(x, "a(<,<,<,@a(!h,!h,!h,!h))", 4);
-        fault(x, "b(a(@b(<,<),<,<,!h),<)", 4);
-        right(x, "b(a(<,<,<,!h),a(<,<,<,!h))");
+        Due.notProved(x, "a(@a(<,<,<,<),<,<,!h)", 4);
+        Due.notProved(x, "a(<,<,<,@a(!h,!h,!h,!h))", 4);
+        Due.notProved(x, "b(a(@b(<,<),<,<,!h),<)", 4);
+        Due.proved(x, "b(a(<,<,<,!h),a(<,<,<,!h))");
     }
 
     private static void ruledOut() {
         Edge.of(Edge.TERMS, "! NAME of a hard rule, if each plan with the values that are given breaks that rule");
         PlanningHouse x = at(1, 7);
-        right(x, "a(<,<,<,!h)");
-        right(x, "a(<,<,<,b(!h,!h))");
-        fault(x, "a(<,<,@!h,!h)", 8);
-        fault(x, "@!h", 8);
-        fault(x, "a(<,<,<,@!i)", 8);
-        fault(x, "a(<,<,<,b(!h,@!i))", 8);
+        Due.proved(x, "a(<,<,<,!h)");
+        Due.proved(x, "a(<,<,<,b(!h,!h))");
+        Due.notProved(x, "a(<,<,@!h,!h)", 8);
+        Due.notProved(x, "@!h", 8);
+        Due.notProved(x, "a(<,<,<,@!i)", 8);
+        Due.notProved(x, "a(<,<,<,b(!h,@!i))", 8);
         StringBuilder many = new StringBuilder("var a in 0..3;");
         for (int r = 0; r < 23; r++) many.append("rule r").append(r).append(r < 11 ? " at 0*1:a=a;" : " at 1*1:a=9;");
         PlanningHouse last = Due.of(many + "rule z at 0*1:a>=2;");
         last.put(0, 0, 3);
-        right(last, "a(!z,!z,.,.)");
-        fault(last, "a(!z,!z,@!z,.)", 8);
-        fault(last, "a(!z,@!r10,.,.)", 8);
-        fault(last, "a(!z,!@r11,.,.)", 4);
+        Due.proved(last, "a(!z,!z,.,.)");
+        Due.notProved(last, "a(!z,!z,@!z,.)", 8);
+        Due.notProved(last, "a(!z,@!r10,.,.)", 8);
+        Due.notProved(last, "a(!z,!@r11,.,.)", 4);
         PlanningHouse y = Due.of("fact f=9;var a in 0..3;rule h at 0*1:a>=f;");
-        right(y, "!h");
+        Due.proved(y, "!h");
         y.change(0, 0, 3);
-        fault(y, "@!h", 8);
-        fault(y, "a(!h,!h,!h,@!h)", 8);
-        right(of(y, 3), "a(!h,!h,!h,.)");
+        Due.notProved(y, "@!h", 8);
+        Due.notProved(y, "a(!h,!h,!h,@!h)", 8);
+        Due.proved(of(y, 3), "a(!h,!h,!h,.)");
     }
 
     private static PlanningHouse of(PlanningHouse x, int a) {
@@ -144,27 +125,27 @@ public final class EdgeProofTest {
     private static void allGiven() {
         Edge.of(Edge.TERMS, ". if the values of all vars are given, and that plan is not feasible, or the plan at hand is not worse");
         PlanningHouse x = at(1, 7);
-        right(x, "a(b(.,.),b(.,.),b(.,.),b(.,.))");
-        fault(x, "@.", 8);
-        fault(x, "a(@.,<,<,!h)", 8);
-        fault(x, "a(<,<,<,@.)", 8);
-        fault(x, "b(@.,<)", 8);
+        Due.proved(x, "a(b(.,.),b(.,.),b(.,.),b(.,.))");
+        Due.notProved(x, "@.", 8);
+        Due.notProved(x, "a(@.,<,<,!h)", 8);
+        Due.notProved(x, "a(<,<,<,@.)", 8);
+        Due.notProved(x, "b(@.,<)", 8);
         PlanningHouse y = at(0, 7);
-        fault(y, "a(b(.,.),b(@.,.),b(.,.),b(.,.))", 8);
+        Due.notProved(y, "a(b(.,.),b(@.,.),b(.,.),b(.,.))", 8);
         PlanningHouse z = at(2, 8);
-        right(z, "a(b(.,.),b(.,.),b(.,.),b(.,.))");
+        Due.proved(z, "a(b(.,.),b(.,.),b(.,.),b(.,.))");
         // a plan at hand that is not feasible is worse than those that are, and as good as it itself
         PlanningHouse w = at(3, 7);
-        fault(w, "a(b(@.,.),b(.,.),b(.,.),b(.,.))", 8);
-        right(of(Due.of("var a in 0..1;rule h at 0*1:a>5;"), 0), "a(.,.)");
-        right(of(Due.of("var a in 0..1;rule h at 0*1:a>5;"), 1), "a(.,.)");
+        Due.notProved(w, "a(b(@.,.),b(.,.),b(.,.),b(.,.))", 8);
+        Due.proved(of(Due.of("var a in 0..1;rule h at 0*1:a>5;"), 0), "a(.,.)");
+        Due.proved(of(Due.of("var a in 0..1;rule h at 0*1:a>5;"), 1), "a(.,.)");
         // one value alone must be given, too
         PlanningHouse one = Due.of("var a in 0..1;var b in 5..5;");
-        fault(one, "a(@.,.)", 8);
-        right(one, "a(b(.),b(.))");
-        right(one, "b(a(.,.))");
+        Due.notProved(one, "a(@.,.)", 8);
+        Due.proved(one, "a(b(.),b(.))");
+        Due.proved(one, "b(a(.,.))");
         one.pin(0, 1, true);
-        right(one, "a(.,.)");
+        Due.proved(one, "a(.,.)");
     }
 
     private static void bounds() {
@@ -172,122 +153,122 @@ public final class EdgeProofTest {
             + " of that level is broken, of each rule for itself over all plans with the given values, and of the least of each aim likewise");
         // the bound of all: level 0: 0, level 1: 0, level 2: -1
         PlanningHouse x = at(1, 7);
-        fault(x, "@<", 8);
-        right(x, "a(<,<,<,<)");
-        right(x, "b(a(<,<,<,<),a(<,<,<,<))");
+        Due.notProved(x, "@<", 8);
+        Due.proved(x, "a(<,<,<,<)");
+        Due.proved(x, "b(a(<,<,<,<),a(<,<,<,<))");
         PlanningHouse y = at(0, 7);
-        fault(y, "a(<,@<,<,<)", 8);
+        Due.notProved(y, "a(<,@<,<,<)", 8);
         PlanningHouse z = at(3, 7);
-        fault(z, "a(@<,<,<,<)", 8);
+        Due.notProved(z, "a(@<,<,<,<)", 8);
         // level by level: just as good is right, worse by one is not
         for (int level = 0; level < 3; level++) {
             String text = level == 0 ? "rule h at 0*1:a=0;" : "aim m at " + level + ":a;";
             PlanningHouse w = Due.of("var a in 0..1;" + text);
-            right(w, "<");
+            Due.proved(w, "<");
             w.put(0, 0, 1);
-            fault(w, "@<", 8);
-            fault(w, "a(@<,<)", 8);
+            Due.notProved(w, "@<", 8);
+            Due.notProved(w, "a(@<,<)", 8);
         }
         // better at level 1 and worse at level 2 is not worse
         PlanningHouse v = Due.of("var a in{1,0};var b in 0..1;aim m at 1:a;aim n at 2:b;");
         v.put(0, 0, 0);
         v.put(0, 1, 1);
-        fault(v, "a(<,@<)", 8);
-        fault(v, "b(@<,<)", 8);
+        Due.notProved(v, "a(<,@<)", 8);
+        Due.notProved(v, "b(@<,<)", 8);
         v.put(0, 1, 0);
-        right(v, "<");
+        Due.proved(v, "<");
     }
 
     private static void boundOfEach() {
         Edge.of(Edge.TERMS, "of each rule for itself over all plans with the given values, and of the least of each aim likewise");
         PlanningHouse x = Due.of("var a in 0..1;rule r at 1*3:a=0;rule s at 1*3:a=1;");
-        fault(x, "@<", 8);
-        right(x, "a(<,<)");
+        Due.notProved(x, "@<", 8);
+        Due.proved(x, "a(<,<)");
         PlanningHouse y = Due.of("var a in 0..1;aim m at 1:a;aim n at 1:-a;");
-        fault(y, "@<", 8);
-        right(y, "a(<,<)");
+        Due.notProved(y, "@<", 8);
+        Due.proved(y, "a(<,<)");
         PlanningHouse z = Due.of("var a in 0..1;rule s at 1*7:a=5;");
-        fault(z, "@<", 8);
-        fault(z, "a(<,@<)", 8);
+        Due.notProved(z, "@<", 8);
+        Due.notProved(z, "a(<,@<)", 8);
         z.put(0, 0, 1);
-        right(z, "<");
+        Due.proved(z, "<");
         PlanningHouse w = Due.of("var a in 0..1;rule s at 0*7:a=5;rule t at 0*2:a=0;");
-        fault(w, "a(<,@<)", 8);
+        Due.notProved(w, "a(<,@<)", 8);
         w.put(0, 0, 1);
         // at level 0 the bound is 28 and 0, and the plan's score 28 and 2
-        fault(w, "@<", 8);
-        right(w, "a(<,<)");
+        Due.notProved(w, "@<", 8);
+        Due.proved(w, "a(<,<)");
         StringBuilder text = new StringBuilder("var a in 0..1;");
         for (int r = 0; r < 24; r++) text.append("rule r").append(r).append(" at 1*1000:1000*1000<-(1000*1000);");
         for (int i = 0; i < 6; i++) text.append("aim m").append(i).append(" at 2:-(1000*1000);");
-        right(Due.of(text.toString()), "<");
+        Due.proved(Due.of(text.toString()), "<");
     }
 
     private static void pinned() {
         Edge.of(Edge.TERMS, "GIVEN are at first the values of pinned vars");
         PlanningHouse x = at(1, 7);
         x.pin(0, 0, true);
-        right(x, "<");
-        right(x, "b(.,.)");
-        fault(x, "@a(<,<,<,!h)", 4);
-        fault(x, "@.", 8);
+        Due.proved(x, "<");
+        Due.proved(x, "b(.,.)");
+        Due.notProved(x, "@a(<,<,<,!h)", 4);
+        Due.notProved(x, "@.", 8);
         x.pin(0, 1, true);
-        right(x, ".");
-        right(x, "<");
-        fault(x, "@b(.,.)", 4);
-        fault(x, "@!h", 8);
+        Due.proved(x, ".");
+        Due.proved(x, "<");
+        Due.notProved(x, "@b(.,.)", 4);
+        Due.notProved(x, "@!h", 8);
         x.put(0, 0, 3);
-        right(x, "!h");
-        right(x, ".");
-        right(x, "<");
+        Due.proved(x, "!h");
+        Due.proved(x, ".");
+        Due.proved(x, "<");
         x.pin(0, 0, false);
-        fault(x, "a(@.,.,.,.)", 8);
+        Due.notProved(x, "a(@.,.,.,.)", 8);
     }
 
     private static void treesOfValues() {
         Edge.of(Edge.TERMS, "TREES: one for each value of that var's range, in order, with , between.");
         PlanningHouse x = at(1, 7);
-        fault(x, "a(<,<,<@)", 2);
-        fault(x, "a(<,<,<,!h@,<)", 2);
-        fault(x, "a(@)", 2);
-        fault(x, "a(<,@,<,<)", 2);
-        fault(x, "a(< @<,<,!h)", 2);
-        fault(x, "a @<", 2);
-        fault(x, "a(@(<,<,<,!h))", 2);
+        Due.notProved(x, "a(<,<,<@)", 2);
+        Due.notProved(x, "a(<,<,<,!h@,<)", 2);
+        Due.notProved(x, "a(@)", 2);
+        Due.notProved(x, "a(<,@,<,<)", 2);
+        Due.notProved(x, "a(< @<,<,!h)", 2);
+        Due.notProved(x, "a @<", 2);
+        Due.notProved(x, "a(@(<,<,<,!h))", 2);
         PlanningHouse one = Due.of("var a in 7..7;");
-        right(one, "a(.)");
-        fault(one, "a(@)", 2);
-        fault(one, "a(.@,.)", 2);
+        Due.proved(one, "a(.)");
+        Due.notProved(one, "a(@)", 2);
+        Due.notProved(one, "a(.@,.)", 2);
         PlanningHouse twenty = Due.of("var a in 0..19;aim m at 1:a;");
-        right(twenty, "a(" + ".,".repeat(19) + ".)");
-        fault(twenty, "a(" + ".,".repeat(18) + ".@)", 2);
-        fault(twenty, "a(" + ".,".repeat(19) + ".@,.)", 2);
+        Due.proved(twenty, "a(" + ".,".repeat(19) + ".)");
+        Due.notProved(twenty, "a(" + ".,".repeat(18) + ".@)", 2);
+        Due.notProved(twenty, "a(" + ".,".repeat(19) + ".@,.)", 2);
         PlanningHouse turned = Due.of("var a in{3,0,1};rule h at 0*1:a#0;aim m at 1:a;");
         turned.put(0, 0, 1);
-        right(turned, "a(.,!h,.)");
-        fault(turned, "a(@!h,.,.)", 8);
-        fault(turned, "a(.,.,@!h)", 8);
+        Due.proved(turned, "a(.,!h,.)");
+        Due.notProved(turned, "a(@!h,.,.)", 8);
+        Due.notProved(turned, "a(.,.,@!h)", 8);
     }
 
     private static void firstFault() {
         Edge.of(Edge.TERMS, "THE FAULT of a proof is the first token that can't stand there, or with which a TREE is not right");
         PlanningHouse x = at(1, 7);
-        fault(x, "@!h$", 8);
-        fault(x, "@. .", 8);
-        fault(x, "@< $", 8);
-        fault(x, "!@x$", 4);
-        fault(x, "!@5", 2);
-        fault(x, "!@$", 1);
-        fault(x, "a(@.,$", 8);
-        fault(x, "a(<,@$", 1);
-        fault(x, "a(<,<,@!h,x", 8);
-        fault(x, "@x $", 4);
-        fault(x, "a(<,<,<,!h @h)", 2);
-        fault(x, "a(<,<,<,@!i", 8);
+        Due.notProved(x, "@!h$", 8);
+        Due.notProved(x, "@. .", 8);
+        Due.notProved(x, "@< $", 8);
+        Due.notProved(x, "!@x$", 4);
+        Due.notProved(x, "!@5", 2);
+        Due.notProved(x, "!@$", 1);
+        Due.notProved(x, "a(@.,$", 8);
+        Due.notProved(x, "a(<,@$", 1);
+        Due.notProved(x, "a(<,<,@!h,x", 8);
+        Due.notProved(x, "@x $", 4);
+        Due.notProved(x, "a(<,<,<,!h @h)", 2);
+        Due.notProved(x, "a(<,<,<,@!i", 8);
         PlanningHouse y = at(0, 7);
-        fault(y, "a(<,b(@.,.),<,<)", 8);
-        fault(y, "a(<,@<,b(.,.),<)", 8);
-        fault(y, "a(<,b(@<,.),<,<)", 8);
+        Due.notProved(y, "a(<,b(@.,.),<,<)", 8);
+        Due.notProved(y, "a(<,@<,b(.,.),<)", 8);
+        Due.notProved(y, "a(<,b(@<,.),<,<)", 8);
     }
 
     private static void twelve() {
@@ -299,12 +280,12 @@ public final class EdgeProofTest {
             proof.append('v').append(11 - i).append("(<,");
         }
         PlanningHouse x = Due.of(text + "aim m at 1:v0+v11;");
-        right(x, proof + "." + ")".repeat(12));
-        fault(x, proof + "@v0(.,.)" + ")".repeat(12), 4);
-        fault(x, proof + "@v12(.,.)" + ")".repeat(12), 4);
-        fault(x, proof.substring(0, proof.length() - 5) + "@." + ")".repeat(11), 8);
+        Due.proved(x, proof + "." + ")".repeat(12));
+        Due.notProved(x, proof + "@v0(.,.)" + ")".repeat(12), 4);
+        Due.notProved(x, proof + "@v12(.,.)" + ")".repeat(12), 4);
+        Due.notProved(x, proof.substring(0, proof.length() - 5) + "@." + ")".repeat(11), 8);
         x.put(0, 0, 1);
-        fault(x, "v11(@" + proof.substring(4) + "." + ")".repeat(12), 8);
+        Due.notProved(x, "v11(@" + proof.substring(4) + "." + ")".repeat(12), 8);
     }
 
     private static void made(PlanningHouse x, String want) {

@@ -37,44 +37,14 @@ public final class EdgeStoreTest {
 
     // ---- bytes
 
-    private static String number(long x, int n) {
-        StringBuilder told = new StringBuilder();
-        for (int i = n - 1; i >= 0; i--) told.append((char) (x >>> 8 * i & 255));
-        return told.toString();
-    }
-
-    /** Bytes with THE SUM of them behind. */
-    private static String summed(String bytes) {
-        long s = 0;
-        for (int i = 0; i < bytes.length(); i++) {
-            s ^= bytes.charAt(i);
-            s = (s << 53 | s >>> 11) * 0xC2B2AE3D27D4EB4FL;
-        }
-        return bytes + number(s, 8);
-    }
-
-    private static String row(String text, String state) {
-        return summed(number(211, 1) + number(text.length(), 2) + text + state);
-    }
-
-    private static String export(int rows, String bytes) {
-        return summed(number(rows, 2) + bytes);
-    }
-
     /** What a row of TEXT has behind its text. */
     private static String state(int f, int g, int a, int costA, int b, int costB, int pins) {
-        return number(f, 4) + number(g, 4) + number(a, 1) + number(costA, 2) + number(b, 1) + number(costB, 2) + number(pins, 2);
+        return Rows.number(f, 4) + Rows.number(g, 4) + Rows.number(a, 1) + Rows.number(costA, 2) + Rows.number(b, 1) + Rows.number(costB, 2) + Rows.number(pins, 2);
     }
 
     /** A row of SMALL, of 28 bytes. */
     private static String small() {
-        return row(SMALL, number(0, 1) + number(1, 2) + number(0, 2));
-    }
-
-    private static String stored(PlanningHouse x) {
-        StringBuilder told = new StringBuilder();
-        for (int b = x.byteAt(0); b >= 0; b = x.byteAt(told.length())) told.append((char) b);
-        return told.toString();
+        return Rows.row(SMALL, Rows.number(0, 1) + Rows.number(1, 2) + Rows.number(0, 2));
     }
 
     private static PlanningHouse typed(PlanningHouse x, String tape) {
@@ -108,8 +78,8 @@ public final class EdgeStoreTest {
         x.weigh(0, 0, 1000);
         x.weigh(0, 1, 0);
         x.save(0);
-        String first = row(TEXT, state(-9999, 9999, -99, 1000, 99, 0, 0));
-        Due.same("the row", stored(x), first);
+        String first = Rows.row(TEXT, state(-9999, 9999, -99, 1000, 99, 0, 0));
+        Due.same("the row", Rows.stored(x), first);
         Due.is("its first byte", x.byteAt(0), 211);
         Due.is("how long its text is", x.byteAt(1) * 256 + x.byteAt(2), TEXT.length());
         Due.is("a fact below 0", x.byteAt(3 + TEXT.length()), 255);
@@ -120,13 +90,13 @@ public final class EdgeStoreTest {
         x.put(0, 1, 0);
         x.pin(0, 1, true);
         x.save(0);
-        Due.same("both rows", stored(x), first + row(TEXT, state(-1, 0, -98, 1000, 0, 0, 2)));
+        Due.same("both rows", Rows.stored(x), first + Rows.row(TEXT, state(-1, 0, -98, 1000, 0, 0, 2)));
         PlanningHouse y = Due.of(SMALL);
         y.save(0);
-        Due.same("a row without facts", stored(y), small());
+        Due.same("a row without facts", Rows.stored(y), small());
         PlanningHouse z = Due.of(" %\u00ff\n" + SMALL + "%");
         z.save(0);
-        Due.same("its text with blanks and remarks", stored(z), row(" %\u00ff\n" + SMALL + "%", number(0, 1) + number(1, 2) + number(0, 2)));
+        Due.same("its text with blanks and remarks", Rows.stored(z), Rows.row(" %\u00ff\n" + SMALL + "%", Rows.number(0, 1) + Rows.number(1, 2) + Rows.number(0, 2)));
     }
 
     private static void twelveVars() {
@@ -135,11 +105,11 @@ public final class EdgeStoreTest {
         StringBuilder state = new StringBuilder();
         for (int i = 0; i < 16; i++) {
             text.append("fact f").append(i).append("=").append(i).append(";");
-            state.append(number(i, 4));
+            state.append(Rows.number(i, 4));
         }
         for (int i = 0; i < 12; i++) {
             text.append("var v").append(i).append(" in{-").append(i).append("};");
-            state.append(number(-i, 1)).append(number(900 + i, 2));
+            state.append(Rows.number(-i, 1)).append(Rows.number(900 + i, 2));
         }
         PlanningHouse x = Due.of(text.toString());
         for (int v = 0; v < 12; v++) {
@@ -147,7 +117,7 @@ public final class EdgeStoreTest {
             x.pin(0, v, v == 0 || v == 11 || v == 8);
         }
         x.save(0);
-        String want = row(text.toString(), state + number(2048 + 256 + 1, 2));
+        String want = Rows.row(text.toString(), state + Rows.number(2048 + 256 + 1, 2));
         Due.is("size", x.size(), want.length());
         for (int i = text.length() - 1; i < want.length(); i++) Due.is("byte " + i, x.byteAt(i), want.charAt(i));
         x.drop(0);
@@ -296,7 +266,7 @@ public final class EdgeStoreTest {
 
     /** A store of one row, behind which three more of 28 bytes are brought. */
     private static PlanningHouse broughtThree() {
-        PlanningHouse x = typed(store(1), export(3, small().repeat(3)));
+        PlanningHouse x = typed(store(1), Rows.export(3, small().repeat(3)));
         Due.is("bring", x.bring(), 3);
         return x;
     }
@@ -315,9 +285,9 @@ public final class EdgeStoreTest {
             Due.is("no more", x.load(rows[i]), PlanningHouse.NONE);
         }
         // rows of several lengths: 28, 62 and 28 bytes
-        String other = row(TEXT, state(1, 2, -98, 3, 0, 4, 3));
+        String other = Rows.row(TEXT, state(1, 2, -98, 3, 0, 4, 3));
         for (int n : new int[] {27, 28, 27 + other.length(), 28 + other.length(), 55 + other.length(), 56 + other.length()}) {
-            PlanningHouse x = typed(store(2), export(3, small() + other + small()));
+            PlanningHouse x = typed(store(2), Rows.export(3, small() + other + small()));
             Due.is("bring", x.bring(), 3);
             int left = n < 28 ? 0 : n < 28 + other.length() ? 1 : n < 56 + other.length() ? 2 : 3;
             Due.is("crash(" + n + ")", x.crash(n), 2 + left);
@@ -333,12 +303,12 @@ public final class EdgeStoreTest {
         y.save(3);
         y.take();
         y.load(0);
-        typed(y, export(0, ""));
+        typed(y, Rows.export(0, ""));
         Due.is("bring of no rows", y.bring(), 0);
         typed(y, "no export");
         Due.is("bring of none", y.bring(), PlanningHouse.NONE);
         Due.is("the second save was the latest that made a row", y.crash(27), 1);
-        Due.is("bring of no rows", typed(y, export(0, "")).bring(), 0);
+        Due.is("bring of no rows", typed(y, Rows.export(0, "")).bring(), 0);
         Due.is("it made none", y.crash(0), 1);
         PlanningHouse z = store(100);
         Due.is("a save that is FULL", z.save(0), PlanningHouse.FULL);
@@ -357,10 +327,10 @@ public final class EdgeStoreTest {
         Edge.of(65, "The tape becomes AN EXPORT of the store: how many bytes it has.");
         PlanningHouse x = typed(new PlanningHouse(), "something longer than the export is");
         Due.is("take of an empty store", x.take(), 10);
-        Due.same("the tape", Due.tape(x), export(0, ""));
+        Due.same("the tape", Due.tape(x), Rows.export(0, ""));
         PlanningHouse y = typed(store(1), "x");
         Due.is("take", y.take(), 38);
-        Due.same("the tape", Due.tape(y), export(1, small()));
+        Due.same("the tape", Due.tape(y), Rows.export(1, small()));
         Due.is("rows stay", y.rows(), 1);
         PlanningHouse z = store(100);
         Due.is("take", z.take(), 2810);
@@ -369,15 +339,15 @@ public final class EdgeStoreTest {
 
     private static void brought() {
         Edge.of(66, "its rows come behind those that there are: how many; the tape is empty then.");
-        PlanningHouse x = typed(new PlanningHouse(), export(0, ""));
+        PlanningHouse x = typed(new PlanningHouse(), Rows.export(0, ""));
         Due.is("no rows", x.bring(), 0);
         Due.is("the tape is empty", x.cut(0), 0);
         Due.is("an empty tape is no export", x.bring(), PlanningHouse.NONE);
-        String other = row(TEXT, state(-7, 8, -98, 9, 0, 10, 1));
-        PlanningHouse y = typed(store(1), export(2, other + small()));
+        String other = Rows.row(TEXT, state(-7, 8, -98, 9, 0, 10, 1));
+        PlanningHouse y = typed(store(1), Rows.export(2, other + small()));
         Due.is("two rows", y.bring(), 2);
         Due.is("the tape is empty", y.cut(0), 0);
-        Due.same("the store", stored(y), small() + other + small());
+        Due.same("the store", Rows.stored(y), small() + other + small());
         Due.is("load", y.load(1), 1);
         Due.planIs(y, 1, "-98 0");
         Due.is("fact", y.fact(1, 0), -7);
@@ -395,14 +365,14 @@ public final class EdgeStoreTest {
 
     /** A row of TEXT with a state that is wrong, or just right. */
     private static void bring(String why, String state, boolean taken) {
-        String tape = export(1, row(TEXT, state));
+        String tape = Rows.export(1, Rows.row(TEXT, state));
         if (!taken) none(why, tape);
         else Due.is("bring: " + why, typed(Edge.house(), tape).bring(), 1);
     }
 
     private static void everyByteOfExport() {
         Edge.of(66, "NONE, and nothing changes: it is none");
-        String tape = export(2, small() + row(TEXT, state(1, 2, -99, 3, 99, 4, 0)));
+        String tape = Rows.export(2, small() + Rows.row(TEXT, state(1, 2, -99, 3, 99, 4, 0)));
         Due.is("a right one", typed(new PlanningHouse(), tape).bring(), 2);
         PlanningHouse x = typed(new PlanningHouse(), tape);
         for (int i = 0; i < tape.length(); i++) {
@@ -416,45 +386,45 @@ public final class EdgeStoreTest {
 
     private static void tooEarlyOrMore() {
         Edge.of(66, "it ends too early or has more");
-        String tape = export(1, small());
+        String tape = Rows.export(1, small());
         for (int n = 0; n < tape.length(); n++) none("the first " + n + " bytes", tape.substring(0, n));
         none("one byte more", tape + " ");
         none("another one behind", tape + tape);
-        none("less rows than it says", export(2, small()));
-        none("far less rows", export(65535, small()));
-        none("none of one", export(1, ""));
-        none("more rows than it says", export(1, small() + small()));
-        none("a row that it does not tell", export(0, small()));
-        none("a byte behind its rows", export(1, small() + " "));
-        none("a byte behind no rows", export(0, " "));
-        for (int n = 0; n < 28; n++) none(n + " bytes of a row", export(1, small().substring(0, n)));
-        for (int n = 0; n < 28; n++) none("a row and " + n + " bytes of one", export(2, small() + small().substring(0, n)));
+        none("less rows than it says", Rows.export(2, small()));
+        none("far less rows", Rows.export(65535, small()));
+        none("none of one", Rows.export(1, ""));
+        none("more rows than it says", Rows.export(1, small() + small()));
+        none("a row that it does not tell", Rows.export(0, small()));
+        none("a byte behind its rows", Rows.export(1, small() + " "));
+        none("a byte behind no rows", Rows.export(0, " "));
+        for (int n = 0; n < 28; n++) none(n + " bytes of a row", Rows.export(1, small().substring(0, n)));
+        for (int n = 0; n < 28; n++) none("a row and " + n + " bytes of one", Rows.export(2, small() + small().substring(0, n)));
         for (int wide : new int[] {SMALL.length() + 1, 1000, 32768, 65535}) {
-            none("a text longer than all", export(1, summed(number(211, 1) + number(wide, 2) + SMALL + number(1, 3) + number(0, 2))));
+            none("a text longer than all", Rows.export(1, Rows.summed(Rows.number(211, 1) + Rows.number(wide, 2) + SMALL + Rows.number(1, 3) + Rows.number(0, 2))));
         }
-        none("a sum alone", summed(""));
-        none("one byte and a sum", summed("\u0000"));
+        none("a sum alone", Rows.summed(""));
+        none("one byte and a sum", Rows.summed("\u0000"));
     }
 
     private static void firstByte() {
         Edge.of(66, "a first byte 211, a text, or a sum is not right");
         for (int b : new int[] {0, 210, 212, 83, 255}) {
-            none("first byte " + b, export(1, summed(number(b, 1) + number(SMALL.length(), 2) + SMALL + number(1, 3) + number(0, 2))));
+            none("first byte " + b, Rows.export(1, Rows.summed(Rows.number(b, 1) + Rows.number(SMALL.length(), 2) + SMALL + Rows.number(1, 3) + Rows.number(0, 2))));
         }
-        String right = number(211, 1) + number(SMALL.length(), 2) + SMALL + number(1, 3) + number(0, 2);
-        Due.is("first byte 211", typed(new PlanningHouse(), export(1, summed(right))).bring(), 1);
+        String right = Rows.number(211, 1) + Rows.number(SMALL.length(), 2) + SMALL + Rows.number(1, 3) + Rows.number(0, 2);
+        Due.is("first byte 211", typed(new PlanningHouse(), Rows.export(1, Rows.summed(right))).bring(), 1);
     }
 
     private static void texts() {
         Edge.of(66, "a first byte 211, a text, or a sum is not right");
         String[] wrong = {"", "$", ";", "var a in{0}", "var a in{0};;", "var a in{0};var a in{0};", "var a in{0};rule r at 0*1:x=1;", "var a in{0,0};",
             "var a in 0..20;", "var a in{0};rule r at 0*1:" + "~".repeat(13) + "a=1;"};
-        String state = number(0, 1) + number(1, 2) + number(0, 2);
-        for (String text : wrong) none("the text " + text, export(1, row(text, state)));
-        none("a text without a var", export(1, row("fact f=1;", number(1, 4) + number(0, 2))));
-        none("the second text", export(2, small() + row("var a in{0}", state)));
-        Due.is("a right text", typed(new PlanningHouse(), export(1, row("%\n" + SMALL, state))).bring(), 1);
-        PlanningHouse x = typed(Due.of(SMALL), export(1, row("$", state)));
+        String state = Rows.number(0, 1) + Rows.number(1, 2) + Rows.number(0, 2);
+        for (String text : wrong) none("the text " + text, Rows.export(1, Rows.row(text, state)));
+        none("a text without a var", Rows.export(1, Rows.row("fact f=1;", Rows.number(1, 4) + Rows.number(0, 2))));
+        none("the second text", Rows.export(2, small() + Rows.row("var a in{0}", state)));
+        Due.is("a right text", typed(new PlanningHouse(), Rows.export(1, Rows.row("%\n" + SMALL, state))).bring(), 1);
+        PlanningHouse x = typed(Due.of(SMALL), Rows.export(1, Rows.row("$", state)));
         Due.is("bring", x.bring(), PlanningHouse.NONE);
         Due.is("its fault is not told", x.fault(), 0);
     }
@@ -493,9 +463,9 @@ public final class EdgeStoreTest {
         bring("all bits", state(0, 1, -99, 1, 99, 1, 65535), false);
         StringBuilder text = new StringBuilder();
         for (int i = 0; i < 12; i++) text.append("var v").append(i).append(" in{1};");
-        String before = (number(1, 1) + number(1, 2)).repeat(12);
-        Due.is("twelve pinned", typed(new PlanningHouse(), export(1, row(text.toString(), before + number(4095, 2)))).bring(), 1);
-        for (int v = 12; v < 16; v++) none("var " + v + " pinned", export(1, row(text.toString(), before + number(1 << v, 2))));
+        String before = (Rows.number(1, 1) + Rows.number(1, 2)).repeat(12);
+        Due.is("twelve pinned", typed(new PlanningHouse(), Rows.export(1, Rows.row(text.toString(), before + Rows.number(4095, 2)))).bring(), 1);
+        for (int v = 12; v < 16; v++) none("var " + v + " pinned", Rows.export(1, Rows.row(text.toString(), before + Rows.number(1 << v, 2))));
     }
 
     private static void sums() {
@@ -504,9 +474,9 @@ public final class EdgeStoreTest {
         for (int i = 20; i < 28; i++) {
             for (int bit : new int[] {1, 128}) {
                 String wrong = right.substring(0, i) + (char) (right.charAt(i) ^ bit) + right.substring(i + 1);
-                none("a row's sum", export(1, wrong));
-                none("the last row's sum", export(2, right + wrong));
-                String tape = export(1, right);
+                none("a row's sum", Rows.export(1, wrong));
+                none("the last row's sum", Rows.export(2, right + wrong));
+                String tape = Rows.export(1, right);
                 int at = tape.length() - 28 + i;
                 none("the export's sum", tape.substring(0, at) + (char) (tape.charAt(at) ^ bit) + tape.substring(at + 1));
             }
@@ -518,9 +488,9 @@ public final class EdgeStoreTest {
         for (int i = 0; i < 10; i++) Due.is("an export of no rows", x.tapeAt(i), 0);
         PlanningHouse y = store(1);
         y.take();
-        String want = number((1L << 53) * 0xC2B2AE3D27D4EB4FL, 8);
-        Due.same("the sum of 0 and 1", summed("\u0000\u0001").substring(2), want);
-        Due.same("the tape", Due.tape(y), summed("\u0000\u0001" + small()));
+        String want = Rows.number((1L << 53) * 0xC2B2AE3D27D4EB4FL, 8);
+        Due.same("the sum of 0 and 1", Rows.summed("\u0000\u0001").substring(2), want);
+        Due.same("the tape", Due.tape(y), Rows.summed("\u0000\u0001" + small()));
     }
 
     private static Supplier<PlanningHouse> storeWith(int rows, String tape) {
@@ -530,15 +500,15 @@ public final class EdgeStoreTest {
     private static void tooManyRows() {
         Edge.of(66, "FULL, and nothing changes (looked at behind all that): there would be more than 100 rows, or too many bytes.");
         String fifty = small().repeat(50);
-        PlanningHouse x = typed(store(50), export(50, fifty));
+        PlanningHouse x = typed(store(50), Rows.export(50, fifty));
         Due.is("just a hundred", x.bring(), 50);
         Due.is("rows", x.rows(), 100);
         Due.is("the last one", x.load(99), 1);
-        Edge.refused("101 rows", storeWith(51, export(50, fifty)), y -> y.bring(), PlanningHouse.FULL);
-        Edge.refused("one row too many", storeWith(100, export(1, small())), y -> y.bring(), PlanningHouse.FULL);
-        Due.is("no row more", storeWith(100, export(0, "")).get().bring(), 0);
-        Due.is("a hundred at once", typed(new PlanningHouse(), export(100, fifty + fifty)).bring(), 100);
-        Edge.refused("101 at once", () -> typed(new PlanningHouse(), export(101, fifty + fifty + small())), y -> y.bring(), PlanningHouse.FULL);
+        Edge.refused("101 rows", storeWith(51, Rows.export(50, fifty)), y -> y.bring(), PlanningHouse.FULL);
+        Edge.refused("one row too many", storeWith(100, Rows.export(1, small())), y -> y.bring(), PlanningHouse.FULL);
+        Due.is("no row more", storeWith(100, Rows.export(0, "")).get().bring(), 0);
+        Due.is("a hundred at once", typed(new PlanningHouse(), Rows.export(100, fifty + fifty)).bring(), 100);
+        Edge.refused("101 at once", () -> typed(new PlanningHouse(), Rows.export(101, fifty + fifty + small())), y -> y.bring(), PlanningHouse.FULL);
     }
 
     /** A store of a row of so many bytes, and a tape that is an export of such a one of so many. */
@@ -572,12 +542,12 @@ public final class EdgeStoreTest {
 
     private static void noneBeforeFull() {
         Edge.of(66, "(looked at behind all that)");
-        String wrong = row(TEXT, state(0, 1, -99, 1001, 99, 1, 0));
-        Edge.refused("a wrong row, with 100", storeWith(100, export(1, wrong)), y -> y.bring(), PlanningHouse.NONE);
-        Edge.refused("a wrong row behind a right one, with 99", storeWith(99, export(2, small() + wrong)), y -> y.bring(), PlanningHouse.NONE);
+        String wrong = Rows.row(TEXT, state(0, 1, -99, 1001, 99, 1, 0));
+        Edge.refused("a wrong row, with 100", storeWith(100, Rows.export(1, wrong)), y -> y.bring(), PlanningHouse.NONE);
+        Edge.refused("a wrong row behind a right one, with 99", storeWith(99, Rows.export(2, small() + wrong)), y -> y.bring(), PlanningHouse.NONE);
         String many = small().repeat(101);
-        Edge.refused("the 102nd is wrong", () -> typed(new PlanningHouse(), export(102, many + wrong)), y -> y.bring(), PlanningHouse.NONE);
-        Edge.refused("more behind 101", () -> typed(new PlanningHouse(), export(101, many + " ")), y -> y.bring(), PlanningHouse.NONE);
+        Edge.refused("the 102nd is wrong", () -> typed(new PlanningHouse(), Rows.export(102, many + wrong)), y -> y.bring(), PlanningHouse.NONE);
+        Edge.refused("more behind 101", () -> typed(new PlanningHouse(), Rows.export(101, many + " ")), y -> y.bring(), PlanningHouse.NONE);
         PlanningHouse x = largeExport(10000, 9991);
         x.spoil(9990, 1);
         Due.is("a wrong one of too many bytes", x.bring(), PlanningHouse.NONE);

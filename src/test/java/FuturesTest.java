@@ -77,39 +77,34 @@ public final class FuturesTest {
         Due.planIs(y, 0, "2");
     }
 
-    private static void board(PlanningHouse x, long above, long below) {
-        Due.is("above()", x.above(), above);
-        Due.is("below()", x.below(), below);
-    }
-
     private static void expected() {
         PlanningHouse x = three();
-        board(x, 0, 1);
+        Due.board(x, 0, 1);
         x.put(0, 0, 2);
         Due.is("level 0", x.expected(0, 0), 3 * 2);
-        board(x, 1, 1);
+        Due.board(x, 1, 1);
         Due.is("level 1", x.expected(0, 1), 12);
-        board(x, 2, 1);
+        Due.board(x, 2, 1);
         Due.is("level 2", x.expected(0, 2), 2 + 0 + 3 * 4);
-        board(x, 7, 3);
+        Due.board(x, 7, 3);
         Due.is("level 3", x.expected(0, 3), PlanningHouse.NO);
         Due.is("level -1", x.expected(0, -1), PlanningHouse.NO);
-        board(x, 7, 3);
+        Due.board(x, 7, 3);
         x.told(0, 1, 1, -5);
         Due.is("below 0", x.expected(0, 1), 2 - 20 + 6);
-        board(x, -2, 1);
+        Due.board(x, -2, 1);
         x.told(0, 1, 1, -4);
         Due.is("below 0", x.expected(0, 1), 2 - 16 + 6);
-        board(x, -4, 3);
+        Due.board(x, -4, 3);
         x.put(0, 0, 0);
         Due.is("nothing", x.expected(0, 1), 0);
-        board(x, 0, 1);
+        Due.board(x, 0, 1);
         x.put(0, 0, 1);
         x.expected(0, 1);
         x.unfold(0);
-        board(x, -2, 3);
+        Due.board(x, -2, 3);
         Due.is("without futures", x.expected(0, 1), PlanningHouse.NO);
-        board(x, -2, 3);
+        Due.board(x, -2, 3);
     }
 
     private static void regret() {
@@ -159,6 +154,6 @@ public final class FuturesTest {
         Due.is("robust", x.robust(0), PlanningHouse.NONE);
         Due.is("expected", x.expected(0, 0), PlanningHouse.NO);
         Due.is("regret", x.regret(0, 0), PlanningHouse.NO);
-        board(x, 0, 1);
+        Due.board(x, 0, 1);
     }
 }

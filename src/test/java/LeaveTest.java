@@ -10,21 +10,13 @@ public final class LeaveTest {
         Due.end();
     }
 
-    private static void left(PlanningHouse x, int v, String want) {
-        StringBuilder got = new StringBuilder();
-        for (int k = 0; x.range(0, v, k) != PlanningHouse.NO; k++) {
-            if (x.isLeft(0, v, k)) got.append(got.length() == 0 ? "" : " ").append(x.range(0, v, k));
-        }
-        Due.same("left of var " + v, got.toString(), want);
-    }
-
     /** One value goes after the other. */
     private static void chain() {
         PlanningHouse x = Due.of("var a in 0..4; var b in 0..4; var c in 0..4; rule r at 0*1: a < b; rule s at 0*1: b < c;");
         Due.is("reach", x.reach(0), 9);
-        left(x, 0, "0 1 2");
-        left(x, 1, "1 2 3");
-        left(x, 2, "2 3 4");
+        Due.left(x, 0, "0 1 2");
+        Due.left(x, 1, "1 2 3");
+        Due.left(x, 2, "2 3 4");
         Due.planIs(x, 0, "0 0 0");
         Due.is("behind the range", x.isLeft(0, 0, 5), false);
         Due.is("before the range", x.isLeft(0, 0, -1), false);
@@ -42,7 +34,7 @@ public final class LeaveTest {
         Due.is("reach", y.reach(0), 3);
         y.change(0, 0, 2);
         Due.is("reach by other facts", y.reach(0), 2);
-        left(y, 0, "7 5");
+        Due.left(y, 0, "7 5");
         PlanningHouse z = Due.of("var a in 0..2; rule r at 1*1: a = 9; aim m at 2: a;");
         Due.is("without hard rules", z.reach(0), 3);
     }
@@ -52,12 +44,12 @@ public final class LeaveTest {
         x.put(0, 0, 1);
         x.pin(0, 0, true);
         Due.is("reach", x.reach(0), 3);
-        left(x, 0, "1");
-        left(x, 1, "3 4");
+        Due.left(x, 0, "1");
+        Due.left(x, 1, "3 4");
         x.put(0, 0, 4);
         Due.is("reach", x.reach(0), 0);
-        left(x, 0, "");
-        left(x, 1, "");
+        Due.left(x, 0, "");
+        Due.left(x, 1, "");
         Due.is("hopeless", x.hopeless(0), 0);
         x.pin(0, 0, false);
         Due.is("reach", x.reach(0), 6);
@@ -66,7 +58,7 @@ public final class LeaveTest {
     private static void none() {
         PlanningHouse x = Due.of("var a in 0..1; var b in 0..9; rule r at 0*1: a > 1;");
         Due.is("reach", x.reach(0), 0);
-        left(x, 1, "");
+        Due.left(x, 1, "");
     }
 
     private static void hopeless() {

@@ -23,103 +23,84 @@ public final class ProofTest {
         return x;
     }
 
-    private static void right(PlanningHouse x, String proof) {
-        x.cut(0);
-        Due.type(x, proof);
-        Due.is("check of " + proof, x.check(0), 0);
-        Due.is("fault of " + proof, x.fault(), 0);
-        Due.same("the tape stays", Due.tape(x), proof);
-    }
-
-    /** The place of the fault is marked by an at sign, which itself is left out. */
-    private static void fault(PlanningHouse x, String marked, int code) {
-        int place = marked.indexOf('@');
-        String proof = marked.substring(0, place) + marked.substring(place + 1);
-        x.cut(0);
-        Due.type(x, proof);
-        Due.is("check of " + marked, x.check(0), -1 - place);
-        Due.is("fault of " + marked, x.fault(), code);
-        Due.same("the tape stays", Due.tape(x), proof);
-    }
-
     private static void right() {
         PlanningHouse x = solved();
-        right(x, "<");
-        right(x, "a(<,!h,<)");
-        right(x, "a(<,!h,b(.,.))");
-        right(x, "b(a(.,.,.),<)");
-        right(x, " a % remark\n ( b(. , .),\t! h , b(<,.) ) \r\n");
-        right(x, "a(b(<,<),b(!h,!h),b(<,<))");
+        Due.proved(x, "<");
+        Due.proved(x, "a(<,!h,<)");
+        Due.proved(x, "a(<,!h,b(.,.))");
+        Due.proved(x, "b(a(.,.,.),<)");
+        Due.proved(x, " a % remark\n ( b(. , .),\t! h , b(<,.) ) \r\n");
+        Due.proved(x, "a(b(<,<),b(!h,!h),b(<,<))");
         Due.planIs(x, 0, "2 0");
     }
 
     private static void notRight() {
         PlanningHouse x = solved();
-        fault(x, "@!h", 8);
-        fault(x, "@.", 8);
-        fault(x, "a(@.,!h,<)", 8);
-        fault(x, "a(@!h,!h,<)", 8);
-        fault(x, "a(<,!h,@! h)", 8);
+        Due.notProved(x, "@!h", 8);
+        Due.notProved(x, "@.", 8);
+        Due.notProved(x, "a(@.,!h,<)", 8);
+        Due.notProved(x, "a(@!h,!h,<)", 8);
+        Due.notProved(x, "a(<,!h,@! h)", 8);
         x.put(0, 1, 1);
-        fault(x, "@<", 8);
-        fault(x, "a(<,!h,b(@.,.))", 8);
-        fault(x, "a(<,!h,b(@<,.))", 8);
+        Due.notProved(x, "@<", 8);
+        Due.notProved(x, "a(<,!h,b(@.,.))", 8);
+        Due.notProved(x, "a(<,!h,b(@<,.))", 8);
         x.put(0, 1, 0);
-        right(x, "a(b(.,.),b(.,.),b(.,.))");
+        Due.proved(x, "a(b(.,.),b(.,.),b(.,.))");
     }
 
     private static void names() {
         PlanningHouse x = solved();
-        fault(x, "@c(.,.)", 4);
-        fault(x, "@h(.,.)", 4);
-        fault(x, "@m", 4);
-        fault(x, "a(<,! @s,<)", 4);
-        fault(x, "a(<,! @a,<)", 4);
-        fault(x, "a(<,! @x,<)", 4);
-        fault(x, "! @x", 4);
-        fault(x, "a(@a(<,<,<),!h,<)", 4);
-        fault(x, "a(b(@b(.,.),.),!h,<)", 4);
+        Due.notProved(x, "@c(.,.)", 4);
+        Due.notProved(x, "@h(.,.)", 4);
+        Due.notProved(x, "@m", 4);
+        Due.notProved(x, "a(<,! @s,<)", 4);
+        Due.notProved(x, "a(<,! @a,<)", 4);
+        Due.notProved(x, "a(<,! @x,<)", 4);
+        Due.notProved(x, "! @x", 4);
+        Due.notProved(x, "a(@a(<,<,<),!h,<)", 4);
+        Due.notProved(x, "a(b(@b(.,.),.),!h,<)", 4);
     }
 
     private static void forms() {
         PlanningHouse x = solved();
-        fault(x, "@", 2);
-        fault(x, "% nothing@", 2);
-        fault(x, "@$", 1);
-        fault(x, "@..", 2);
-        fault(x, "@(", 2);
-        fault(x, "@7", 2);
-        fault(x, "@all(<)", 2);
-        fault(x, "< @<", 2);
-        fault(x, "< @;", 2);
-        fault(x, "< @$", 1);
-        fault(x, "a@", 2);
-        fault(x, "a @<", 2);
-        fault(x, "a(@)", 2);
-        fault(x, "a(<,!h@)", 2);
-        fault(x, "a(<,!h,<@,<)", 2);
-        fault(x, "a(<,!h,<@", 2);
-        fault(x, "a(<,!h @<", 2);
-        fault(x, "a(<,!@,<)", 2);
-        fault(x, "a(<,!@max,<)", 2);
-        fault(x, "a(<,!@12345,<)", 1);
-        fault(x, "a(<,!h,@<=)", 2);
-        fault(x, "a(@abcdefghi,!h,<)", 1);
+        Due.notProved(x, "@", 2);
+        Due.notProved(x, "% nothing@", 2);
+        Due.notProved(x, "@$", 1);
+        Due.notProved(x, "@..", 2);
+        Due.notProved(x, "@(", 2);
+        Due.notProved(x, "@7", 2);
+        Due.notProved(x, "@all(<)", 2);
+        Due.notProved(x, "< @<", 2);
+        Due.notProved(x, "< @;", 2);
+        Due.notProved(x, "< @$", 1);
+        Due.notProved(x, "a@", 2);
+        Due.notProved(x, "a @<", 2);
+        Due.notProved(x, "a(@)", 2);
+        Due.notProved(x, "a(<,!h@)", 2);
+        Due.notProved(x, "a(<,!h,<@,<)", 2);
+        Due.notProved(x, "a(<,!h,<@", 2);
+        Due.notProved(x, "a(<,!h @<", 2);
+        Due.notProved(x, "a(<,!@,<)", 2);
+        Due.notProved(x, "a(<,!@max,<)", 2);
+        Due.notProved(x, "a(<,!@12345,<)", 1);
+        Due.notProved(x, "a(<,!h,@<=)", 2);
+        Due.notProved(x, "a(@abcdefghi,!h,<)", 1);
     }
 
     private static void pinned() {
         PlanningHouse x = solved();
         x.pin(0, 0, true);
-        right(x, "b(.,.)");
-        right(x, "<");
-        fault(x, "@a(<,!h,<)", 4);
+        Due.proved(x, "b(.,.)");
+        Due.proved(x, "<");
+        Due.notProved(x, "@a(<,!h,<)", 4);
         x.pin(0, 1, true);
-        right(x, ".");
-        right(x, "<");
-        fault(x, "@b(.,.)", 4);
+        Due.proved(x, ".");
+        Due.proved(x, "<");
+        Due.notProved(x, "@b(.,.)", 4);
         x.put(0, 0, 1);
-        right(x, "!h");
-        right(x, ".");
+        Due.proved(x, "!h");
+        Due.proved(x, ".");
         Due.is("prove with all pinned", x.prove(0), 1);
         Due.same("the tape", Due.tape(x), ".");
     }
@@ -130,26 +111,26 @@ public final class ProofTest {
         // scores: 0: 6 0, 1: 3 0, 2: 5 2, 3: 10 6; the bound of all: 0 and -3
         x.solve(0);
         Due.planIs(x, 0, "1");
-        fault(x, "@<", 8);
-        right(x, "a(<,<,<,<)");
+        Due.notProved(x, "@<", 8);
+        Due.proved(x, "a(<,<,<,<)");
         x.put(0, 0, 2);
-        fault(x, "a(<,@<,<,<)", 8);
+        Due.notProved(x, "a(<,@<,<,<)", 8);
         PlanningHouse y = Due.of("var a in 0..1; var b in 0..1; aim m at 1: a; aim n at 1: 0 - a; rule r at 2*1: b = a;");
         y.put(0, 0, 1);
         y.put(0, 1, 1);
-        fault(y, "@<", 8);
-        right(y, "a(<,<)");
+        Due.notProved(y, "@<", 8);
+        Due.proved(y, "a(<,<)");
         y.put(0, 1, 0);
-        fault(y, "a(@<,<)", 8);
-        fault(y, "a(b(@<,<),<)", 8);
+        Due.notProved(y, "a(@<,<)", 8);
+        Due.notProved(y, "a(b(@<,<),<)", 8);
         PlanningHouse z = Due.of("var a in 0..1; rule h at 0*2: a = 5;");
         // not feasible, but better than all others: the bound's level 0 counts
         z.put(0, 0, 1);
-        right(z, "<");
+        Due.proved(z, "<");
         z.put(0, 0, 0);
-        fault(z, "@<", 8);
-        right(z, "a(.,.)");
-        right(z, "!h");
+        Due.notProved(z, "@<", 8);
+        Due.proved(z, "a(.,.)");
+        Due.proved(z, "!h");
     }
 
     private static void made() {

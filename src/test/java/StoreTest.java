@@ -14,41 +14,11 @@ public final class StoreTest {
         Due.end();
     }
 
-    private static String number(long x, int n) {
-        StringBuilder told = new StringBuilder();
-        for (int i = n - 1; i >= 0; i--) told.append((char) (x >>> 8 * i & 255));
-        return told.toString();
-    }
-
-    private static String sum(String bytes) {
-        long s = 0;
-        for (int i = 0; i < bytes.length(); i++) s = Long.rotateLeft(s ^ bytes.charAt(i), 53) * 0xC2B2AE3D27D4EB4FL;
-        return number(s, 8);
-    }
-
-    private static String summed(String bytes) {
-        return bytes + sum(bytes);
-    }
-
-    private static String rowOf(String text, String state) {
-        return summed((char) 211 + number(text.length(), 2) + text + state);
-    }
-
-    private static String exportOf(int rows, String bytes) {
-        return summed(number(rows, 2) + bytes);
-    }
-
-    private static String stored(PlanningHouse x) {
-        StringBuilder told = new StringBuilder();
-        for (int i = 0; x.byteAt(i) != PlanningHouse.NONE; i++) told.append((char) x.byteAt(i));
-        return told.toString();
-    }
-
     private static void row() {
         PlanningHouse x = Due.of(TEXT);
         Due.is("save", x.save(0), 0);
-        String first = rowOf(TEXT, number(-2, 4) + number(7, 4) + number(255, 1) + number(1, 2) + number(0, 1) + number(1, 2) + number(0, 2));
-        Due.same("the row", stored(x), first);
+        String first = Rows.row(TEXT, Rows.number(-2, 4) + Rows.number(7, 4) + Rows.number(255, 1) + Rows.number(1, 2) + Rows.number(0, 1) + Rows.number(1, 2) + Rows.number(0, 2));
+        Due.same("the row", Rows.stored(x), first);
         Due.is("rows", x.rows(), 1);
         Due.is("size", x.size(), first.length());
         x.change(0, 0, 9999);
@@ -58,8 +28,8 @@ public final class StoreTest {
         x.weigh(0, 1, 0);
         x.pin(0, 1, true);
         Due.is("save", x.save(0), 1);
-        String second = rowOf(TEXT, number(9999, 4) + number(-9999, 4) + number(255, 1) + number(1000, 2) + number(3, 1) + number(0, 2) + number(2, 2));
-        Due.same("both rows", stored(x), first + second);
+        String second = Rows.row(TEXT, Rows.number(9999, 4) + Rows.number(-9999, 4) + Rows.number(255, 1) + Rows.number(1000, 2) + Rows.number(3, 1) + Rows.number(0, 2) + Rows.number(2, 2));
+        Due.same("both rows", Rows.stored(x), first + second);
         Due.is("byteAt(-1)", x.byteAt(-1), PlanningHouse.NONE);
         Due.is("byteAt behind", x.byteAt(x.size()), PlanningHouse.NONE);
         Due.is("byteAt(0)", x.byteAt(0), 211);
@@ -144,7 +114,7 @@ public final class StoreTest {
         Due.is("all are there", x.crash(Integer.MAX_VALUE), 8);
         x.save(0);
         x.cut(0);
-        Due.type(x, exportOf(0, ""));
+        Due.type(x, Rows.export(0, ""));
         Due.is("bring of no rows", x.bring(), 0);
         Due.is("the save was the latest that made a row", x.crash(29), 8);
         Due.is("a save that failed", x.save(1), PlanningHouse.NONE);
@@ -157,19 +127,19 @@ public final class StoreTest {
         PlanningHouse x = Due.of(TEXT);
         Due.type(x, "something");
         Due.is("take of none", x.take(), 10);
-        Due.same("the tape", Due.tape(x), exportOf(0, ""));
+        Due.same("the tape", Due.tape(x), Rows.export(0, ""));
         Due.is("bring of none", x.bring(), 0);
         Due.is("the tape is empty", x.cut(0), 0);
         x.save(0);
         x.put(0, 0, 1);
         x.save(0);
-        String rows = stored(x);
+        String rows = Rows.stored(x);
         Due.is("take", x.take(), rows.length() + 10);
-        Due.same("the tape", Due.tape(x), exportOf(2, rows));
+        Due.same("the tape", Due.tape(x), Rows.export(2, rows));
         PlanningHouse y = new PlanningHouse();
-        Due.type(y, exportOf(2, rows));
+        Due.type(y, Rows.export(2, rows));
         Due.is("bring", y.bring(), 2);
-        Due.same("the rows", stored(y), rows);
+        Due.same("the rows", Rows.stored(y), rows);
         Due.is("the tape is empty", y.cut(0), 0);
         Due.is("rows", y.rows(), 2);
         Due.is("load", y.load(1), 0);
@@ -189,41 +159,41 @@ public final class StoreTest {
     }
 
     private static String state(int f, int a, int costA, int b, int pins) {
-        return number(f, 4) + number(7, 4) + number(a, 1) + number(costA, 2) + number(b, 1) + number(1, 2) + number(pins, 2);
+        return Rows.number(f, 4) + Rows.number(7, 4) + Rows.number(a, 1) + Rows.number(costA, 2) + Rows.number(b, 1) + Rows.number(1, 2) + Rows.number(pins, 2);
     }
 
     private static void noExports() {
-        String fine = rowOf(TEXT, state(-9999, -1, 1000, 3, 3));
+        String fine = Rows.row(TEXT, state(-9999, -1, 1000, 3, 3));
         PlanningHouse x = new PlanningHouse();
-        Due.type(x, exportOf(1, fine));
+        Due.type(x, Rows.export(1, fine));
         Due.is("a fine one", x.bring(), 1);
         none("");
-        none(exportOf(0, "").substring(1));
-        none(exportOf(0, "") + " ");
-        none(exportOf(1, ""));
-        none(exportOf(2, fine));
-        none(exportOf(0, fine));
-        none(exportOf(1, fine + fine));
-        none(exportOf(1, fine.substring(0, fine.length() - 1)));
-        none(exportOf(1, summed((char) 210 + fine.substring(1, fine.length() - 8))));
-        none(exportOf(1, fine.substring(0, fine.length() - 1) + (char) (fine.charAt(fine.length() - 1) ^ 1)));
-        String whole = exportOf(1, fine);
+        none(Rows.export(0, "").substring(1));
+        none(Rows.export(0, "") + " ");
+        none(Rows.export(1, ""));
+        none(Rows.export(2, fine));
+        none(Rows.export(0, fine));
+        none(Rows.export(1, fine + fine));
+        none(Rows.export(1, fine.substring(0, fine.length() - 1)));
+        none(Rows.export(1, Rows.summed((char) 210 + fine.substring(1, fine.length() - 8))));
+        none(Rows.export(1, fine.substring(0, fine.length() - 1) + (char) (fine.charAt(fine.length() - 1) ^ 1)));
+        String whole = Rows.export(1, fine);
         none(whole.substring(0, whole.length() - 1) + (char) (whole.charAt(whole.length() - 1) ^ 1));
-        none(exportOf(1, rowOf(TEXT.replace("var b", "var a"), state(0, 0, 1, 0, 0))));
-        none(exportOf(1, rowOf("", number(0, 2))));
-        none(exportOf(1, rowOf("fact f = 1;", number(1, 4) + number(0, 2))));
-        none(exportOf(1, rowOf(TEXT, state(10000, 0, 1, 0, 0))));
-        none(exportOf(1, rowOf(TEXT, state(-10000, 0, 1, 0, 0))));
-        none(exportOf(1, rowOf(TEXT, state(0, 2, 1, 0, 0))));
-        none(exportOf(1, rowOf(TEXT, state(0, -2, 1, 0, 0))));
-        none(exportOf(1, rowOf(TEXT, state(0, 0, 1001, 0, 0))));
-        none(exportOf(1, rowOf(TEXT, state(0, 0, 65535, 0, 0))));
-        none(exportOf(1, rowOf(TEXT, state(0, 0, 1, 4, 0))));
-        none(exportOf(1, rowOf(TEXT, state(0, 0, 1, 0, 4))));
-        none(exportOf(1, rowOf(TEXT, state(0, 0, 1, 0, 32768))));
-        none(exportOf(1, rowOf(TEXT, state(0, 0, 1, 0, 0) + " ")));
-        none(summed(number(1, 2) + (char) 211));
-        none(summed(number(1, 2) + (char) 211 + number(65535, 2)));
+        none(Rows.export(1, Rows.row(TEXT.replace("var b", "var a"), state(0, 0, 1, 0, 0))));
+        none(Rows.export(1, Rows.row("", Rows.number(0, 2))));
+        none(Rows.export(1, Rows.row("fact f = 1;", Rows.number(1, 4) + Rows.number(0, 2))));
+        none(Rows.export(1, Rows.row(TEXT, state(10000, 0, 1, 0, 0))));
+        none(Rows.export(1, Rows.row(TEXT, state(-10000, 0, 1, 0, 0))));
+        none(Rows.export(1, Rows.row(TEXT, state(0, 2, 1, 0, 0))));
+        none(Rows.export(1, Rows.row(TEXT, state(0, -2, 1, 0, 0))));
+        none(Rows.export(1, Rows.row(TEXT, state(0, 0, 1001, 0, 0))));
+        none(Rows.export(1, Rows.row(TEXT, state(0, 0, 65535, 0, 0))));
+        none(Rows.export(1, Rows.row(TEXT, state(0, 0, 1, 4, 0))));
+        none(Rows.export(1, Rows.row(TEXT, state(0, 0, 1, 0, 4))));
+        none(Rows.export(1, Rows.row(TEXT, state(0, 0, 1, 0, 32768))));
+        none(Rows.export(1, Rows.row(TEXT, state(0, 0, 1, 0, 0) + " ")));
+        none(Rows.summed(Rows.number(1, 2) + (char) 211));
+        none(Rows.summed(Rows.number(1, 2) + (char) 211 + Rows.number(65535, 2)));
     }
 
     private static void fullExports() {
