@@ -608,6 +608,8 @@ public final class EdgeTextsTest {
         Due.is("fault()", x.fault(), 1);
         x.check(4);
         Due.is("check of none reads no text", x.fault(), 1);
+        Due.is("a FULL problem()", x.problem(), PlanningHouse.FULL);
+        Due.is("reads no text", x.fault(), 1);
         x.save(0);
         x.drop(0);
         x.load(0);
