@@ -1,3 +1,5 @@
+import java.util.Random;
+
 /** The edges of what rules leave, the best, fronts, near plans, clashes and reasons: promises 25 to 46. */
 public final class EdgeBestTest {
     private static final int LEAST = Integer.MIN_VALUE;
@@ -18,6 +20,7 @@ public final class EdgeBestTest {
         mend();
         front();
         largeFront();
+        manyFronts();
         near();
         twelveClash();
         oneClashes();
@@ -362,6 +365,48 @@ public final class EdgeBestTest {
         PlanningHouse y = Due.of(LARGE + "aim m at 1:a;aim n at 2:-b;");
         Due.is("one pair of many", y.front(0), 1);
         pair(y, 0, 50, 0, -19);
+    }
+
+    /** Of one var with so many values: each pair is looked at with all others. */
+    private static void manyFronts() {
+        Edge.of(39, "The first plan of pair k of the front is at hand then: true.");
+        Random random = new Random(39);
+        for (int n = 0; n < 200; n++) {
+            int plans = 1 + n % 20;
+            int[][] scores = new int[plans][2];
+            StringBuilder one = new StringBuilder();
+            StringBuilder two = new StringBuilder();
+            for (int a = 0; a < plans; a++) {
+                scores[a][0] = random.nextInt(2 + n / 15) - 3;
+                scores[a][1] = random.nextInt(2 + n / 15) - 3;
+                one.append(a == 0 ? "" : ",").append(scores[a][0]);
+                two.append(a == 0 ? "" : ",").append(scores[a][1]);
+            }
+            PlanningHouse x = Due.of("var a in 0.." + (plans - 1) + ";aim m at 1:pick(a:" + one + ");aim n at 2:pick(a:" + two + ");");
+            int pairs = 0;
+            for (int level = -3; level < 20; level++) {
+                int first = -1;
+                int many = 0;
+                for (int a = 0; a < plans; a++) {
+                    if (scores[a][0] != level || isBeaten(scores, a)) continue;
+                    if (first < 0) first = a;
+                    many++;
+                }
+                if (many == 0) continue;
+                pair(x, pairs, many, level, scores[first][1]);
+                Due.is("frontPlan", x.frontPlan(0, pairs), true);
+                Due.is("the first plan", x.value(0, 0), first);
+                pairs++;
+            }
+            Due.is("front", x.front(0), pairs);
+        }
+    }
+
+    private static boolean isBeaten(int[][] scores, int a) {
+        for (int[] other : scores) {
+            if (other[0] < scores[a][0] && other[1] <= scores[a][1] || other[0] <= scores[a][0] && other[1] < scores[a][1]) return true;
+        }
+        return false;
     }
 
     private static void near() {

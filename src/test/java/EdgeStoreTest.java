@@ -508,7 +508,10 @@ public final class EdgeStoreTest {
         Edge.refused("one row too many", storeWith(100, Rows.export(1, small())), y -> y.bring(), PlanningHouse.FULL);
         Due.is("no row more", storeWith(100, Rows.export(0, "")).get().bring(), 0);
         Due.is("a hundred at once", typed(new PlanningHouse(), Rows.export(100, fifty + fifty)).bring(), 100);
-        Edge.refused("101 at once", () -> typed(new PlanningHouse(), Rows.export(101, fifty + fifty + small())), y -> y.bring(), PlanningHouse.FULL);
+        for (int rows = 101; rows <= 103; rows++) {
+            String tape = Rows.export(rows, small().repeat(rows));
+            Edge.refused(rows + " at once", () -> typed(new PlanningHouse(), tape), y -> y.bring(), PlanningHouse.FULL);
+        }
     }
 
     /** A store of a row of so many bytes, and a tape that is an export of such a one of so many. */

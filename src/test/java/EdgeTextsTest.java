@@ -226,6 +226,9 @@ public final class EdgeTextsTest {
             Due.fault(RULE + "lex(" + names + ":" + names + "@,a);", 2);
             if (n > 1) Due.fault(RULE + "lex(" + names + ":" + "a,".repeat(n - 2) + "a@);", 2);
         }
+        for (String less : new String[] {"row(a@)", "lex(a@)", "auto(a@)", "auto(a:(0,1,1)@)", "busy(1@)", "row(a:@)", "lex(a:@)", "busy(1:@)", "auto(a:@:1)"}) {
+            Due.fault(RULE + less + ";", 2);
+        }
         Due.fault(RULE + "row(" + "a,".repeat(11) + "a@,a:(1));", 2);
         Due.fault(RULE + "lex(" + "a,".repeat(11) + "a@,a:a);", 2);
         Edge.of(Edge.TERMS, "ROWS, ARROWS, TASKS, BOXES: one to forty with , between");
