@@ -5,8 +5,12 @@ import java.lang.reflect.Modifier;
 import java.nio.charset.StandardCharsets;
 import java.nio.file.Files;
 import java.nio.file.Path;
+import java.util.ArrayList;
 import java.util.Arrays;
 import java.util.HashSet;
+import java.util.LinkedHashMap;
+import java.util.List;
+import java.util.Map;
 import java.util.Set;
 import java.util.TreeSet;
 import java.util.regex.Matcher;
@@ -26,10 +30,18 @@ public final class LanguageTest {
         + "expected(int,int)long regret(int,int)long search(int,int,int,int,int)int searched(int)int check(int)int prove(int)int "
         + "above()long below()long save(int)int load(int)int rows()int size()int byteAt(int)int crash(int)int take()int bring()int";
 
+    private static final String TYPES = "\\[?[ISBCJZ]|\\[?LPlanningHouse(\\$[A-Za-z]+)?;|Ljava/lang/String;";
+    private static final String LIBRARY = "java\\.lang\\.(Object\\.<init>|String\\.(charAt|length|indexOf\\(I\\))|Math\\.(abs|min|max)\\("
+        + "|Integer\\.(bitCount|numberOfTrailingZeros)\\(|System\\.arraycopy).*|java\\.util\\.Arrays\\.(copyOf|fill)\\(\\[[ISBJ].*";
+    /** invokedynamic, athrow, checkcast, instanceof, monitorenter, monitorexit, and all steps on floats and doubles. */
+    private static final int[] BANNED_STEPS = {186, 191, 192, 193, 194, 195, 11, 12, 13, 14, 15, 98, 99, 102, 103, 106, 107, 110, 111,
+        114, 115, 118, 119, 134, 135, 137, 138, 139, 140, 141, 142, 143, 144, 149, 150, 151, 152};
+
     public static void main(String[] args) throws Exception {
         face();
         inside();
         words();
+        compiled();
         Due.end();
     }
 
@@ -101,6 +113,32 @@ public final class LanguageTest {
         Matcher whiles = Pattern.compile("\\bwhile\\b|for \\(;;\\)").matcher(code);
         Due.is("no loop without a counter", whiles.find(), false);
         methodsAreShort(source.split("\n"));
+    }
+
+    /** What the compiler made of the program, for what can't be seen from outside. */
+    private static void compiled() throws Exception {
+        List<ClassFile> files = new ArrayList<>(List.of(new ClassFile(PlanningHouse.class)));
+        for (Class<?> c : PlanningHouse.class.getDeclaredClasses()) files.add(new ClassFile(c));
+        Map<String, Set<String>> calls = new LinkedHashMap<>();
+        for (ClassFile file : files) calls.putAll(file.calls);
+        for (ClassFile file : files) {
+            Due.is(file.name + " catches nothing", file.catching.isEmpty(), true);
+            for (String type : file.types) Due.is("a type of rule 3: " + type, type.matches(TYPES), true);
+            for (String method : file.steps.keySet()) {
+                for (int step : BANNED_STEPS) Due.is("no step " + step + " in " + method, file.steps.get(method).contains(step), false);
+                Due.is("writes no static field: " + method, file.writing.contains(method) && !method.contains("<clinit>"), false);
+                for (String called : file.calls.get(method)) {
+                    Due.is("in the library of rule 4: " + called, calls.containsKey(called) || called.matches(LIBRARY), true);
+                }
+            }
+        }
+        Map<String, List<String>> chains = ClassFile.chains(files);
+        for (String method : chains.keySet()) {
+            Due.is("at most eight calls deep: " + chains.get(method), chains.get(method).size() <= 8, true);
+            boolean again = ClassFile.reached(method, calls).contains(method);
+            String owner = method.substring(0, method.indexOf('.'));
+            Due.is("calls itself: " + method, again && !owner.matches("PlanningHouse\\$(Reader|Proof)"), false);
+        }
     }
 
     private static void methodsAreShort(String[] lines) {
